@@ -1067,11 +1067,9 @@ public final class DesiredStateKeeper {
             limit = readDigit(1, 9);
             int tens = readDigit(0, 5);
             length = 10 * tens + readDigit(tens == 0 ? 1 : 0, tens == 5 ? 0 : 9);
-            Arrays.fill(rings, 0);
             for (int n = 0; n < nodes; n++) {
                 rings[n] = readDigit(0, MAX_RING);
             }
-            Arrays.fill(quorums, 0);
             for (int c = 0; c < components; c++) {
                 quorums[c] = readDigit(0, MAX_QUORUM);
             }

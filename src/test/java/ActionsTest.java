@@ -46,8 +46,12 @@ public final class ActionsTest {
         Checks.due("wished of node 2", k.version(2, 1, true), 3);
         Checks.due("wished of node 3", k.version(3, 1, true), 3);
         Checks.due("wished of another component", k.version(3, 0, true), 0);
+        Checks.due("wishRing(0, 1, 2)", k.wishRing(0, 1, 2), 1);
+        Checks.due("wished of node 1", k.version(1, 1, true), 2);
+        Checks.due("wishRing(0, 1, 0)", k.wishRing(0, 1, 0), 1);
+        Checks.due("wished of node 1", k.version(1, 1, true), 0);
         Checks.due("wishRing(2, 1, 3)", k.wishRing(2, 1, 3), 0);
-        Checks.due("wishRing of an empty ring is an action", k.undo(), 1);
+        Checks.due("wishRing of an empty ring is an action", k.undo(), 3);
         Checks.refuses(k, "wishRing(3, 0, 0)", Checks.BAD_ARGUMENT, () -> k.wishRing(3, 0, 0));
         Checks.refuses(k, "wishRing(-1, 0, 0)", Checks.BAD_ARGUMENT, () -> k.wishRing(-1, 0, 0));
         Checks.refuses(k, "wishRing(0, 0, 4)", Checks.BAD_ARGUMENT, () -> k.wishRing(0, 0, 4));

@@ -3,6 +3,7 @@ public final class ScriptTest {
 
     public static void main(String[] args) {
         commands();
+        approvalsAddUp();
         wrongCommands();
         order();
         scriptArguments();
@@ -49,6 +50,16 @@ public final class ScriptTest {
         run(4, 5001_1002_4007_6002L, -9);
         run(4, 5001_1002_4005_6002L, 3);
         run(3, 5009_5000_4001L, -9);
+    }
+
+    private static void approvalsAddUp() {
+        DesiredStateKeeper k = Checks.keeper("D11105" + "0" + "2" + "w001");
+        k.approve(0, 1, 0);
+        Checks.due("the same approver again", k.runScript(2, 3010_7003L), -9);
+        Checks.due("another approver", k.runScript(2, 3011_7000L), -9);
+        Checks.due("two other approvers", k.runScript(3, 3014_3013_7000L), -9);
+        Checks.due("of another version", k.runScript(2, 3021_7003L), -9);
+        Checks.due("approvals are as before", k.approvals(0, 1), 1);
     }
 
     private static void wrongCommands() {
@@ -110,9 +121,15 @@ public final class ScriptTest {
 
     private static void simulate() {
         long[] seeds = {0, 1, -1, 77, Long.MIN_VALUE, Long.MAX_VALUE, 123456789012345678L};
+        simulate(seeds, "D23105" + "01" + "010" + "n0222" + "w001v023");
+        simulate(seeds, "D11105" + "0" + "0");
+        simulate(seeds, "D56203" + "01012" + "000010" + "n0112x2132n5111" + "w001w011w201v313w423");
+    }
+
+    private static void simulate(long[] seeds, String text) {
         for (long seed : seeds) {
             for (int m : new int[] {1, 2, 3, 10, 59, 60}) {
-                DesiredStateKeeper k = some();
+                DesiredStateKeeper k = Checks.keeper(text);
                 k.tick(2);
                 String before = Checks.sight(k);
                 int got = k.simulate(seed, m);

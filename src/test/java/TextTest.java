@@ -48,6 +48,7 @@ public final class TextTest {
     private static void errorsInTheHead() {
         error("", 0);
         error("d", 0);
+        error("1110500", 0);
         error("E1110100", 0);
         error("D", 1);
         error("D0", 1);
@@ -164,6 +165,16 @@ public final class TextTest {
         k.wish(0, 1, 3);
         Checks.due("load again", k.load(), 2);
         Checks.due("load again brings the same", Checks.sight(k), loaded);
+        k.setQuorum(0, 0);
+        k.drift(1, 0, 3);
+        Checks.due("changes before load", k.tick(1), 1);
+        k.drift(1, 0, 3);
+        k.setFaults(1, 1);
+        k.tick(1);
+        Checks.due("strikes before load", k.node(1, 2), 1);
+        Checks.write(k, "D2290500" + "00" + "n0112");
+        Checks.due("load of two nodes", k.load(), 1);
+        Checks.due("nothing of before", Checks.sight(k), Checks.sight(Checks.keeper("D2290500" + "00" + "n0112")));
         Checks.write(k, "D1190500");
         Checks.due("load of less", k.load(), 0);
         Checks.due("the rules are gone", k.breaks(0, 0, 3), 0);
