@@ -4,6 +4,7 @@ public final class WaysTest {
     public static void main(String[] args) {
         fewestWithoutRules();
         fewestWithADetour();
+        sixComponents();
         noWay();
         brokenStart();
         goalsAndRulesChange();
@@ -46,6 +47,17 @@ public final class WaysTest {
         way("a detour of one of three", longer, 0, 1, 5, 11, 7);
         DesiredStateKeeper barred = Checks.keeper("D12105" + "0" + "00" + "x0112" + "v001w001v011w012");
         Checks.due("a wish that breaks a rule", barred.fewest(0), -9);
+    }
+
+    private static void sixComponents() {
+        // each needs the one after it, and 0 bars 5 at 3: the last one comes first, and all but 5 can be at 3
+        DesiredStateKeeper k = Checks.keeper("D16105" + "0" + "000000" + "n0111n1121n2131n3141n4151x0153"
+                + "w003w013w023w033w043w052");
+        way("a chain", k, 0, 22, 19, 15, 11, 7, 3);
+        k.wish(0, 5, 3);
+        Checks.due("a chain into a bar", k.fewest(0), -9);
+        k.wish(0, 0, 0);
+        way("without the one that bars", k, 0, 23, 19, 15, 11, 7);
     }
 
     private static void noWay() {
@@ -143,6 +155,9 @@ public final class WaysTest {
         DesiredStateKeeper none = Checks.keeper("D12105" + "0" + "00" + "n0112x0111");
         Checks.due("isPossible(0, 1) of none", none.isPossible(0, 1), false);
         Checks.due("isPossible(1, 3)", none.isPossible(1, 3), true);
+        DesiredStateKeeper six = Checks.keeper("D16105" + "0" + "000000" + "n5141n4131n3121n2111n1101x0151");
+        Checks.due("a chain of needs that ends in a bar", six.isPossible(5, 1), false);
+        Checks.due("a chain of needs without it", six.isPossible(4, 3), true);
         Checks.due("isPossible of a new object", new DesiredStateKeeper().isPossible(0, 3), true);
     }
 }
