@@ -139,6 +139,14 @@ public final class WaysTest {
         DesiredStateKeeper high = Checks.keeper("D12105" + "0" + "00" + "n0111n0213");
         Checks.due("the greater of two needs", high.needed(0, 2, 1), 3);
         Checks.due("the smaller one alone", high.needed(0, 1, 1), 1);
+        // ten rules, the last one first in the chain; then fewer rules on the same object
+        DesiredStateKeeper ten = Checks.keeper("D13105" + "0" + "000" + "n1121".repeat(9) + "n0111");
+        Checks.due("the tenth rule", ten.needed(0, 1, 1), 1);
+        Checks.due("and what follows from it", ten.needed(0, 1, 2), 1);
+        Checks.write(ten, "D13105" + "0" + "000" + "n0111");
+        ten.load();
+        Checks.due("the rule that is left", ten.needed(0, 1, 1), 1);
+        Checks.due("a rule that is gone", ten.needed(0, 1, 2), 0);
         DesiredStateKeeper turned = Checks.keeper("D12105" + "0" + "00" + "n0213n0111");
         Checks.due("the greater one first", turned.needed(0, 3, 1), 3);
     }
