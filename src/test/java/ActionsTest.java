@@ -30,12 +30,12 @@ public final class ActionsTest {
         Checks.due("wished of another component", k.version(0, 0, true), 0);
         Checks.due("wished of another node", k.version(1, 1, true), 0);
         Checks.due("present", k.version(0, 1, false), 0);
-        Checks.refuses(k, "wish(2, 0, 0)", Checks.NO_INDEX, () -> k.wish(2, 0, 0));
-        Checks.refuses(k, "wish(-1, 0, 0)", Checks.NO_INDEX, () -> k.wish(-1, 0, 0));
-        Checks.refuses(k, "wish(0, 2, 4)", Checks.NO_INDEX, () -> k.wish(0, 2, 4));
-        Checks.refuses(k, "wish(0, -1, 0)", Checks.NO_INDEX, () -> k.wish(0, -1, 0));
-        Checks.refuses(k, "wish(0, 0, 4)", Checks.BAD_ARGUMENT, () -> k.wish(0, 0, 4));
-        Checks.refuses(k, "wish(0, 0, -1)", Checks.BAD_ARGUMENT, () -> k.wish(0, 0, -1));
+        Checks.refuses("wish(2, 0, 0)", Checks.NO_INDEX, () -> k.wish(2, 0, 0));
+        Checks.refuses("wish(-1, 0, 0)", Checks.NO_INDEX, () -> k.wish(-1, 0, 0));
+        Checks.refuses("wish(0, 2, 4)", Checks.NO_INDEX, () -> k.wish(0, 2, 4));
+        Checks.refuses("wish(0, -1, 0)", Checks.NO_INDEX, () -> k.wish(0, -1, 0));
+        Checks.refuses("wish(0, 0, 4)", Checks.BAD_ARGUMENT, () -> k.wish(0, 0, 4));
+        Checks.refuses("wish(0, 0, -1)", Checks.BAD_ARGUMENT, () -> k.wish(0, 0, -1));
     }
 
     private static void wishRing() {
@@ -52,12 +52,12 @@ public final class ActionsTest {
         Checks.due("wished of node 1", k.version(1, 1, true), 0);
         Checks.due("wishRing(2, 1, 3)", k.wishRing(2, 1, 3), 0);
         Checks.due("wishRing of an empty ring is an action", k.undo(), 3);
-        Checks.refuses(k, "wishRing(3, 0, 0)", Checks.BAD_ARGUMENT, () -> k.wishRing(3, 0, 0));
-        Checks.refuses(k, "wishRing(-1, 0, 0)", Checks.BAD_ARGUMENT, () -> k.wishRing(-1, 0, 0));
-        Checks.refuses(k, "wishRing(0, 0, 4)", Checks.BAD_ARGUMENT, () -> k.wishRing(0, 0, 4));
-        Checks.refuses(k, "wishRing(0, 0, -1)", Checks.BAD_ARGUMENT, () -> k.wishRing(0, 0, -1));
-        Checks.refuses(k, "wishRing(3, 2, 4)", Checks.NO_INDEX, () -> k.wishRing(3, 2, 4));
-        Checks.refuses(k, "wishRing(0, -1, 0)", Checks.NO_INDEX, () -> k.wishRing(0, -1, 0));
+        Checks.refuses("wishRing(3, 0, 0)", Checks.BAD_ARGUMENT, () -> k.wishRing(3, 0, 0));
+        Checks.refuses("wishRing(-1, 0, 0)", Checks.BAD_ARGUMENT, () -> k.wishRing(-1, 0, 0));
+        Checks.refuses("wishRing(0, 0, 4)", Checks.BAD_ARGUMENT, () -> k.wishRing(0, 0, 4));
+        Checks.refuses("wishRing(0, 0, -1)", Checks.BAD_ARGUMENT, () -> k.wishRing(0, 0, -1));
+        Checks.refuses("wishRing(3, 2, 4)", Checks.NO_INDEX, () -> k.wishRing(3, 2, 4));
+        Checks.refuses("wishRing(0, -1, 0)", Checks.NO_INDEX, () -> k.wishRing(0, -1, 0));
     }
 
     private static void drift() {
@@ -69,12 +69,12 @@ public final class ActionsTest {
         Checks.due("present of another node", k.version(0, 1, false), 0);
         Checks.due("wished", k.version(1, 1, true), 0);
         Checks.due("no change is counted", k.about(6), 0);
-        Checks.refuses(k, "drift(2, 0, 0)", Checks.NO_INDEX, () -> k.drift(2, 0, 0));
-        Checks.refuses(k, "drift(-1, 0, 0)", Checks.NO_INDEX, () -> k.drift(-1, 0, 0));
-        Checks.refuses(k, "drift(0, 2, 4)", Checks.NO_INDEX, () -> k.drift(0, 2, 4));
-        Checks.refuses(k, "drift(0, -1, 0)", Checks.NO_INDEX, () -> k.drift(0, -1, 0));
-        Checks.refuses(k, "drift(0, 0, 4)", Checks.BAD_ARGUMENT, () -> k.drift(0, 0, 4));
-        Checks.refuses(k, "drift(0, 0, -1)", Checks.BAD_ARGUMENT, () -> k.drift(0, 0, -1));
+        Checks.refuses("drift(2, 0, 0)", Checks.NO_INDEX, () -> k.drift(2, 0, 0));
+        Checks.refuses("drift(-1, 0, 0)", Checks.NO_INDEX, () -> k.drift(-1, 0, 0));
+        Checks.refuses("drift(0, 2, 4)", Checks.NO_INDEX, () -> k.drift(0, 2, 4));
+        Checks.refuses("drift(0, -1, 0)", Checks.NO_INDEX, () -> k.drift(0, -1, 0));
+        Checks.refuses("drift(0, 0, 4)", Checks.BAD_ARGUMENT, () -> k.drift(0, 0, 4));
+        Checks.refuses("drift(0, 0, -1)", Checks.BAD_ARGUMENT, () -> k.drift(0, 0, -1));
     }
 
     private static void approve() {
@@ -83,13 +83,13 @@ public final class ActionsTest {
         Checks.due("approve(1, 2, 4)", k.approve(1, 2, 4), 2);
         Checks.due("approve(1, 0, 4)", k.approve(1, 0, 4), 1);
         Checks.due("approvals", k.approvals(1, 2), 0b10001);
-        Checks.refuses(k, "approve again", Checks.BAD_STATE, () -> k.approve(1, 2, 4));
-        Checks.refuses(k, "approve(2, 0, 0)", Checks.NO_INDEX, () -> k.approve(2, 0, 0));
-        Checks.refuses(k, "approve(-1, 4, 0)", Checks.NO_INDEX, () -> k.approve(-1, 4, 0));
-        Checks.refuses(k, "approve(0, 0, 5)", Checks.NO_INDEX, () -> k.approve(0, 0, 5));
-        Checks.refuses(k, "approve(0, 4, -1)", Checks.NO_INDEX, () -> k.approve(0, 4, -1));
-        Checks.refuses(k, "approve(0, 4, 0)", Checks.BAD_ARGUMENT, () -> k.approve(0, 4, 0));
-        Checks.refuses(k, "approve(0, -1, 0)", Checks.BAD_ARGUMENT, () -> k.approve(0, -1, 0));
+        Checks.refuses("approve again", Checks.BAD_STATE, () -> k.approve(1, 2, 4));
+        Checks.refuses("approve(2, 0, 0)", Checks.NO_INDEX, () -> k.approve(2, 0, 0));
+        Checks.refuses("approve(-1, 4, 0)", Checks.NO_INDEX, () -> k.approve(-1, 4, 0));
+        Checks.refuses("approve(0, 0, 5)", Checks.NO_INDEX, () -> k.approve(0, 0, 5));
+        Checks.refuses("approve(0, 4, -1)", Checks.NO_INDEX, () -> k.approve(0, 4, -1));
+        Checks.refuses("approve(0, 4, 0)", Checks.BAD_ARGUMENT, () -> k.approve(0, 4, 0));
+        Checks.refuses("approve(0, -1, 0)", Checks.BAD_ARGUMENT, () -> k.approve(0, -1, 0));
     }
 
     private static void dismiss() {
@@ -106,8 +106,8 @@ public final class ActionsTest {
         Checks.due("dismiss(0)", k.dismiss(0), 0);
         Checks.due("a dismissal of nothing is an action", k.undo(), 6);
         Checks.due("approve after dismiss", k.approve(0, 0, 3), 1);
-        Checks.refuses(k, "dismiss(5)", Checks.NO_INDEX, () -> k.dismiss(5));
-        Checks.refuses(k, "dismiss(-1)", Checks.NO_INDEX, () -> k.dismiss(-1));
+        Checks.refuses("dismiss(5)", Checks.NO_INDEX, () -> k.dismiss(5));
+        Checks.refuses("dismiss(-1)", Checks.NO_INDEX, () -> k.dismiss(-1));
     }
 
     private static void setQuorum() {
@@ -119,10 +119,10 @@ public final class ActionsTest {
         Checks.due("not approved", k.state(0, 0), 3);
         k.setQuorum(0, 0);
         Checks.due("approved", k.state(0, 0), 0);
-        Checks.refuses(k, "setQuorum(2, 0)", Checks.NO_INDEX, () -> k.setQuorum(2, 6));
-        Checks.refuses(k, "setQuorum(-1, 0)", Checks.NO_INDEX, () -> k.setQuorum(-1, 0));
-        Checks.refuses(k, "setQuorum(0, 6)", Checks.BAD_ARGUMENT, () -> k.setQuorum(0, 6));
-        Checks.refuses(k, "setQuorum(0, -1)", Checks.BAD_ARGUMENT, () -> k.setQuorum(0, -1));
+        Checks.refuses("setQuorum(2, 0)", Checks.NO_INDEX, () -> k.setQuorum(2, 6));
+        Checks.refuses("setQuorum(-1, 0)", Checks.NO_INDEX, () -> k.setQuorum(-1, 0));
+        Checks.refuses("setQuorum(0, 6)", Checks.BAD_ARGUMENT, () -> k.setQuorum(0, 6));
+        Checks.refuses("setQuorum(0, -1)", Checks.BAD_ARGUMENT, () -> k.setQuorum(0, -1));
     }
 
     private static void setFaults() {
@@ -131,18 +131,18 @@ public final class ActionsTest {
         Checks.due("setFaults(1, 4)", k.setFaults(1, 4), 9);
         Checks.due("faults of node 1", k.node(1, 1), 4);
         Checks.due("faults of node 0", k.node(0, 1), 0);
-        Checks.refuses(k, "setFaults(2, 0)", Checks.NO_INDEX, () -> k.setFaults(2, 10));
-        Checks.refuses(k, "setFaults(-1, 0)", Checks.NO_INDEX, () -> k.setFaults(-1, 0));
-        Checks.refuses(k, "setFaults(0, 10)", Checks.BAD_ARGUMENT, () -> k.setFaults(0, 10));
-        Checks.refuses(k, "setFaults(0, -1)", Checks.BAD_ARGUMENT, () -> k.setFaults(0, -1));
+        Checks.refuses("setFaults(2, 0)", Checks.NO_INDEX, () -> k.setFaults(2, 10));
+        Checks.refuses("setFaults(-1, 0)", Checks.NO_INDEX, () -> k.setFaults(-1, 0));
+        Checks.refuses("setFaults(0, 10)", Checks.BAD_ARGUMENT, () -> k.setFaults(0, 10));
+        Checks.refuses("setFaults(0, -1)", Checks.BAD_ARGUMENT, () -> k.setFaults(0, -1));
     }
 
     private static void pardon() {
         DesiredStateKeeper k = Checks.keeper("D2120700" + "0" + "w001w101");
-        Checks.refuses(k, "pardon of a free node", Checks.BAD_STATE, () -> k.pardon(0));
+        Checks.refuses("pardon of a free node", Checks.BAD_STATE, () -> k.pardon(0));
         k.setFaults(0, 3);
         k.tick(1);
-        Checks.refuses(k, "pardon of a node with a strike", Checks.BAD_STATE, () -> k.pardon(0));
+        Checks.refuses("pardon of a node with a strike", Checks.BAD_STATE, () -> k.pardon(0));
         Checks.due("one strike", k.node(0, 2), 1);
         k.tick(3);
         Checks.due("end of quarantine", k.node(0, 3), 9);
@@ -152,9 +152,9 @@ public final class ActionsTest {
         Checks.due("no strikes", k.node(0, 2), 0);
         Checks.due("the fault stays", k.node(0, 1), 1);
         Checks.due("state", k.state(0, 0), 0);
-        Checks.refuses(k, "pardon again", Checks.BAD_STATE, () -> k.pardon(0));
-        Checks.refuses(k, "pardon(2)", Checks.NO_INDEX, () -> k.pardon(2));
-        Checks.refuses(k, "pardon(-1)", Checks.NO_INDEX, () -> k.pardon(-1));
+        Checks.refuses("pardon again", Checks.BAD_STATE, () -> k.pardon(0));
+        Checks.refuses("pardon(2)", Checks.NO_INDEX, () -> k.pardon(2));
+        Checks.refuses("pardon(-1)", Checks.NO_INDEX, () -> k.pardon(-1));
         k.undo();
         Checks.due("pardon is taken back", k.node(0, 3), 9);
         k.tick(4);
@@ -241,9 +241,9 @@ public final class ActionsTest {
 
     private static void tickArguments() {
         DesiredStateKeeper k = Checks.keeper("D1120500" + "w001");
-        Checks.refuses(k, "tick(0)", Checks.BAD_ARGUMENT, () -> k.tick(0));
-        Checks.refuses(k, "tick(-1)", Checks.BAD_ARGUMENT, () -> k.tick(-1));
-        Checks.refuses(k, "tick(51)", Checks.BAD_ARGUMENT, () -> k.tick(51));
+        Checks.refuses("tick(0)", Checks.BAD_ARGUMENT, () -> k.tick(0));
+        Checks.refuses("tick(-1)", Checks.BAD_ARGUMENT, () -> k.tick(-1));
+        Checks.refuses("tick(51)", Checks.BAD_ARGUMENT, () -> k.tick(51));
         Checks.due("tick(50)", k.tick(50), 1);
     }
 
@@ -256,7 +256,7 @@ public final class ActionsTest {
             Checks.due("undo", k.undo(), left);
             Checks.due("time after undo", k.about(5), (6 + left) * (7 + left) / 2);
         }
-        Checks.refuses(k, "undo of what is forgotten", Checks.BAD_STATE, k::undo);
+        Checks.refuses("undo of what is forgotten", Checks.BAD_STATE, k::undo);
         k.tick(1);
         Checks.due("undo goes on", k.undo(), 0);
         Checks.due("time", k.about(5), 21);
@@ -269,49 +269,49 @@ public final class ActionsTest {
         Checks.due("undo keeps the slots", k.restore(1), 22);
     }
 
-    private static void undoOfEveryAction() {
+    /** A keeper whose node 1 is quarantined. */
+    private static DesiredStateKeeper quarantined() {
         DesiredStateKeeper k = Checks.keeper("D2210901" + "01" + "n0112v002w002w101w111");
         k.setFaults(1, 4);
         k.approve(1, 1, 1);
         k.tick(2);
-        Checks.due("node 1 is quarantined", k.node(1, 3) != -9, true);
-        k.restore(slotOf(k));
-        undone(k, "wish", () -> k.wish(0, 0, 3));
-        undone(k, "wishRing", () -> k.wishRing(1, 1, 3));
-        undone(k, "drift", () -> k.drift(0, 0, 3));
-        undone(k, "approve", () -> k.approve(1, 3, 0));
-        undone(k, "dismiss", () -> k.dismiss(1));
-        undone(k, "setQuorum", () -> k.setQuorum(1, 5));
-        undone(k, "setFaults", () -> k.setFaults(1, 9));
-        undone(k, "pardon", () -> k.pardon(1));
-        undone(k, "tick", () -> k.tick(50));
+        return k;
     }
 
-    private static int slotOf(DesiredStateKeeper k) {
-        k.save(0);
-        return 0;
+    private static void undoOfEveryAction() {
+        Checks.due("node 1 is quarantined", quarantined().node(1, 3) != -9, true);
+        undone("wish", k -> k.wish(0, 0, 3));
+        undone("wishRing", k -> k.wishRing(1, 1, 3));
+        undone("drift", k -> k.drift(0, 0, 3));
+        undone("approve", k -> k.approve(1, 3, 0));
+        undone("dismiss", k -> k.dismiss(1));
+        undone("setQuorum", k -> k.setQuorum(1, 5));
+        undone("setFaults", k -> k.setFaults(1, 9));
+        undone("pardon", k -> k.pardon(1));
+        undone("tick", k -> k.tick(50));
     }
 
-    private static void undone(DesiredStateKeeper k, String action, Checks.Call call) {
+    private static void undone(String name, Unchanged.Body action) {
+        DesiredStateKeeper k = quarantined();
         String before = Checks.sight(k);
-        call.run();
-        Checks.due(action + " changes something", Checks.sight(k).equals(before), false);
-        Checks.due("undo of " + action, k.undo(), 0);
-        Checks.due("after undo of " + action, Checks.sight(k), before);
+        action.run(k);
+        Checks.due(name + " changes something", Checks.sight(k).equals(before), false);
+        Checks.due("undo of " + name, k.undo(), 3);
+        Checks.due("after undo of " + name, Checks.sight(k), before);
     }
 
     private static void refusedCallsAreNoActions() {
         DesiredStateKeeper k = Checks.keeper("D1120500");
         k.approve(0, 1, 1);
-        Checks.refuses(k, "approve", Checks.BAD_STATE, () -> k.approve(0, 1, 1));
-        Checks.refuses(k, "pardon", Checks.BAD_STATE, () -> k.pardon(0));
-        Checks.refuses(k, "wish", Checks.BAD_ARGUMENT, () -> k.wish(0, 0, 9));
-        Checks.refuses(k, "drift", Checks.BAD_ARGUMENT, () -> k.drift(0, 0, 9));
-        Checks.refuses(k, "wishRing", Checks.BAD_ARGUMENT, () -> k.wishRing(0, 0, 9));
-        Checks.refuses(k, "setQuorum", Checks.BAD_ARGUMENT, () -> k.setQuorum(0, 9));
-        Checks.refuses(k, "setFaults", Checks.BAD_ARGUMENT, () -> k.setFaults(0, 19));
-        Checks.refuses(k, "dismiss", Checks.NO_INDEX, () -> k.dismiss(9));
-        Checks.refuses(k, "tick", Checks.BAD_ARGUMENT, () -> k.tick(99));
+        Checks.refuses("approve", Checks.BAD_STATE, () -> k.approve(0, 1, 1));
+        Checks.refuses("pardon", Checks.BAD_STATE, () -> k.pardon(0));
+        Checks.refuses("wish", Checks.BAD_ARGUMENT, () -> k.wish(0, 0, 9));
+        Checks.refuses("drift", Checks.BAD_ARGUMENT, () -> k.drift(0, 0, 9));
+        Checks.refuses("wishRing", Checks.BAD_ARGUMENT, () -> k.wishRing(0, 0, 9));
+        Checks.refuses("setQuorum", Checks.BAD_ARGUMENT, () -> k.setQuorum(0, 9));
+        Checks.refuses("setFaults", Checks.BAD_ARGUMENT, () -> k.setFaults(0, 19));
+        Checks.refuses("dismiss", Checks.NO_INDEX, () -> k.dismiss(9));
+        Checks.refuses("tick", Checks.BAD_ARGUMENT, () -> k.tick(99));
         Checks.due("only one action is remembered", k.undo(), 0);
     }
 }

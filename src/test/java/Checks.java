@@ -9,15 +9,25 @@ final class Checks {
 
     private static int wrong = 0;
     private static int made = 0;
+    private static String topic = "";
 
     private Checks() {
+    }
+
+    /** What the checks from now on are about; it is told with each wrong answer. */
+    static void topic(String now) {
+        topic = now + ": ";
+    }
+
+    static int made() {
+        return made;
     }
 
     static void due(String call, Object got, Object want) {
         made++;
         if (!Objects.equals(got, want)) {
             wrong++;
-            System.out.println(call + " answered " + got + ", due is " + want);
+            System.out.println(topic + call + " answered " + got + ", due is " + want);
         }
     }
 
@@ -25,17 +35,19 @@ final class Checks {
         void run();
     }
 
-    /** The call must throw exactly this class, and must leave all that can be seen of the keeper as it was. */
-    static void refuses(DesiredStateKeeper keeper, String call, Class<?> want, Call body) {
-        String before = sight(keeper);
-        Class<?> got = null;
+    /** The call must throw exactly this class. That it changes nothing is looked at by {@link Unchanged}. */
+    static void refuses(String call, Class<?> want, Call body) {
+        due(call + " throws", thrown(body), want);
+    }
+
+    /** The class of what the call throws; null if it throws nothing. */
+    static Class<?> thrown(Call body) {
         try {
             body.run();
         } catch (RuntimeException e) {
-            got = e.getClass();
+            return e.getClass();
         }
-        due(call + " throws", got, want);
-        due(call + " changes nothing", sight(keeper), before);
+        return null;
     }
 
     static DesiredStateKeeper keeper(String text) {
@@ -52,34 +64,36 @@ final class Checks {
         }
     }
 
-    /** All that calls which change nothing tell of the state. */
+    /** All that calls which change nothing tell of the state and the rules; at most 183 calls. */
     static String sight(DesiredStateKeeper k) {
         StringBuilder all = new StringBuilder();
+        int[] about = new int[8];
         for (int what = 0; what <= 7; what++) {
-            all.append(k.about(what)).append(' ');
+            about[what] = k.about(what);
+            all.append(about[what]).append(' ');
         }
-        for (int n = 0; n < k.about(0); n++) {
+        for (int n = 0; n < about[0]; n++) {
             all.append("\nnode");
             for (int what = 0; what <= 6; what++) {
                 all.append(' ').append(k.node(n, what));
             }
-            for (int c = 0; c < k.about(1); c++) {
+            for (int c = 0; c < about[1]; c++) {
                 all.append(' ').append(k.version(n, c, false)).append('>').append(k.version(n, c, true));
             }
         }
-        for (int c = 0; c < k.about(1); c++) {
+        for (int c = 0; c < about[1]; c++) {
             all.append("\ncomponent ").append(k.quorum(c));
             for (int v = 0; v <= 3; v++) {
                 all.append(' ').append(k.approvals(c, v));
             }
         }
-        for (int r = 0; r < k.about(2); r++) {
+        for (int r = 0; r < about[2]; r++) {
             all.append("\nrule");
             for (int what = 0; what <= 4; what++) {
                 all.append(' ').append(k.rule(r, what));
             }
         }
-        return all.append("\ntext ").append(k.errorPosition()).toString();
+        return all.toString();
     }
 
     static void end(String test) {

@@ -29,10 +29,10 @@ public final class DigestRankTest {
         Checks.due("explains(0, 63)", k.explains(0, 63), 0);
         Checks.due("explains(1, 0)", k.explains(1, 0), 0);
         Checks.due("explains(1, 6)", k.explains(1, 6), bits(4 * 1 + 3, 4 * 2 + 2, 4 * 5 + 1));
-        Checks.refuses(k, "explains(2, 64)", Checks.NO_INDEX, () -> k.explains(2, 64));
-        Checks.refuses(k, "explains(-1, 0)", Checks.NO_INDEX, () -> k.explains(-1, 0));
-        Checks.refuses(k, "explains(0, 64)", Checks.BAD_ARGUMENT, () -> k.explains(0, 64));
-        Checks.refuses(k, "explains(0, -1)", Checks.BAD_ARGUMENT, () -> k.explains(0, -1));
+        Checks.refuses("explains(2, 64)", Checks.NO_INDEX, () -> k.explains(2, 64));
+        Checks.refuses("explains(-1, 0)", Checks.NO_INDEX, () -> k.explains(-1, 0));
+        Checks.refuses("explains(0, 64)", Checks.BAD_ARGUMENT, () -> k.explains(0, 64));
+        Checks.refuses("explains(0, -1)", Checks.BAD_ARGUMENT, () -> k.explains(0, -1));
         Checks.due("a component that does not exist", Checks.keeper("D12105" + "0" + "00").explains(0, 3),
                 bits(4 * 0 + 3));
     }
@@ -49,8 +49,8 @@ public final class DigestRankTest {
         Checks.due("two rules first", rules.ranked(0), 2);
         Checks.due("then one rule", rules.ranked(1), 1);
         Checks.due("then none", rules.ranked(2), 0);
-        Checks.refuses(k, "ranked(5)", Checks.NO_INDEX, () -> k.ranked(5));
-        Checks.refuses(k, "ranked(-1)", Checks.NO_INDEX, () -> k.ranked(-1));
+        Checks.refuses("ranked(5)", Checks.NO_INDEX, () -> k.ranked(5));
+        Checks.refuses("ranked(-1)", Checks.NO_INDEX, () -> k.ranked(-1));
         Checks.due("ranked of a new object", new DesiredStateKeeper().ranked(0), 0);
     }
 }

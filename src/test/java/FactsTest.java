@@ -29,9 +29,9 @@ public final class FactsTest {
             Checks.due("new approvals", k.approvals(0, v), 0);
         }
         Checks.due("new text", k.clearText(), 0);
-        Checks.refuses(k, "new undo()", Checks.BAD_STATE, k::undo);
-        Checks.refuses(k, "new restore(0)", Checks.BAD_STATE, () -> k.restore(0));
-        Checks.refuses(k, "new restore(1)", Checks.BAD_STATE, () -> k.restore(1));
+        Checks.refuses("new undo()", Checks.BAD_STATE, k::undo);
+        Checks.refuses("new restore(0)", Checks.BAD_STATE, () -> k.restore(0));
+        Checks.refuses("new restore(1)", Checks.BAD_STATE, () -> k.restore(1));
         Checks.due("NONE", DesiredStateKeeper.NONE, -9);
     }
 
@@ -46,8 +46,8 @@ public final class FactsTest {
         Checks.due("about(5) after ticks", k.about(5), 3);
         Checks.due("about(6) after ticks", k.about(6), 2);
         Checks.due("about(7) after ticks", k.about(7), 7);
-        Checks.refuses(k, "about(-1)", Checks.BAD_ARGUMENT, () -> k.about(-1));
-        Checks.refuses(k, "about(8)", Checks.BAD_ARGUMENT, () -> k.about(8));
+        Checks.refuses("about(-1)", Checks.BAD_ARGUMENT, () -> k.about(-1));
+        Checks.refuses("about(8)", Checks.BAD_ARGUMENT, () -> k.about(8));
     }
 
     private static void node() {
@@ -72,11 +72,11 @@ public final class FactsTest {
         k.wish(1, 4, 0);
         k.tick(1);
         Checks.due("node(1, 3) at the end", k.node(1, 3), -9);
-        Checks.refuses(k, "node(2, 0)", Checks.NO_INDEX, () -> k.node(2, 0));
-        Checks.refuses(k, "node(-1, 0)", Checks.NO_INDEX, () -> k.node(-1, 0));
-        Checks.refuses(k, "node(0, 7)", Checks.BAD_ARGUMENT, () -> k.node(0, 7));
-        Checks.refuses(k, "node(0, -1)", Checks.BAD_ARGUMENT, () -> k.node(0, -1));
-        Checks.refuses(k, "node(2, 7)", Checks.NO_INDEX, () -> k.node(2, 7));
+        Checks.refuses("node(2, 0)", Checks.NO_INDEX, () -> k.node(2, 0));
+        Checks.refuses("node(-1, 0)", Checks.NO_INDEX, () -> k.node(-1, 0));
+        Checks.refuses("node(0, 7)", Checks.BAD_ARGUMENT, () -> k.node(0, 7));
+        Checks.refuses("node(0, -1)", Checks.BAD_ARGUMENT, () -> k.node(0, -1));
+        Checks.refuses("node(2, 7)", Checks.NO_INDEX, () -> k.node(2, 7));
         DesiredStateKeeper most = Checks.keeper("D16101" + "0" + "000000" + "v003v013v023v033v043v053");
         Checks.due("the greatest digest", most.node(0, 6), 63);
     }
@@ -88,10 +88,10 @@ public final class FactsTest {
         Checks.due("version(1, 0, false)", k.version(1, 0, false), 0);
         Checks.due("version(1, 0, true)", k.version(1, 0, true), 2);
         Checks.due("version(0, 0, true)", k.version(0, 0, true), 0);
-        Checks.refuses(k, "version(2, 0)", Checks.NO_INDEX, () -> k.version(2, 0, true));
-        Checks.refuses(k, "version(-1, 0)", Checks.NO_INDEX, () -> k.version(-1, 0, false));
-        Checks.refuses(k, "version(0, 2)", Checks.NO_INDEX, () -> k.version(0, 2, false));
-        Checks.refuses(k, "version(0, -1)", Checks.NO_INDEX, () -> k.version(0, -1, true));
+        Checks.refuses("version(2, 0)", Checks.NO_INDEX, () -> k.version(2, 0, true));
+        Checks.refuses("version(-1, 0)", Checks.NO_INDEX, () -> k.version(-1, 0, false));
+        Checks.refuses("version(0, 2)", Checks.NO_INDEX, () -> k.version(0, 2, false));
+        Checks.refuses("version(0, -1)", Checks.NO_INDEX, () -> k.version(0, -1, true));
     }
 
     private static void rule() {
@@ -102,11 +102,11 @@ public final class FactsTest {
                 Checks.due("rule(" + r + ", " + what + ")", k.rule(r, what), want[r][what]);
             }
         }
-        Checks.refuses(k, "rule(2, 0)", Checks.NO_INDEX, () -> k.rule(2, 0));
-        Checks.refuses(k, "rule(-1, 0)", Checks.NO_INDEX, () -> k.rule(-1, 0));
-        Checks.refuses(k, "rule(0, 5)", Checks.BAD_ARGUMENT, () -> k.rule(0, 5));
-        Checks.refuses(k, "rule(0, -1)", Checks.BAD_ARGUMENT, () -> k.rule(0, -1));
-        Checks.refuses(k, "rule(2, 5)", Checks.NO_INDEX, () -> k.rule(2, 5));
+        Checks.refuses("rule(2, 0)", Checks.NO_INDEX, () -> k.rule(2, 0));
+        Checks.refuses("rule(-1, 0)", Checks.NO_INDEX, () -> k.rule(-1, 0));
+        Checks.refuses("rule(0, 5)", Checks.BAD_ARGUMENT, () -> k.rule(0, 5));
+        Checks.refuses("rule(0, -1)", Checks.BAD_ARGUMENT, () -> k.rule(0, -1));
+        Checks.refuses("rule(2, 5)", Checks.NO_INDEX, () -> k.rule(2, 5));
     }
 
     private static void approvals() {
@@ -118,10 +118,10 @@ public final class FactsTest {
         Checks.due("approvals(0, 0)", k.approvals(0, 0), 0b100);
         Checks.due("approvals(1, 2)", k.approvals(1, 2), 0);
         Checks.due("approvals(0, 3)", k.approvals(0, 3), 0);
-        Checks.refuses(k, "approvals(2, 0)", Checks.NO_INDEX, () -> k.approvals(2, 0));
-        Checks.refuses(k, "approvals(-1, 9)", Checks.NO_INDEX, () -> k.approvals(-1, 9));
-        Checks.refuses(k, "approvals(0, 4)", Checks.BAD_ARGUMENT, () -> k.approvals(0, 4));
-        Checks.refuses(k, "approvals(0, -1)", Checks.BAD_ARGUMENT, () -> k.approvals(0, -1));
+        Checks.refuses("approvals(2, 0)", Checks.NO_INDEX, () -> k.approvals(2, 0));
+        Checks.refuses("approvals(-1, 9)", Checks.NO_INDEX, () -> k.approvals(-1, 9));
+        Checks.refuses("approvals(0, 4)", Checks.BAD_ARGUMENT, () -> k.approvals(0, 4));
+        Checks.refuses("approvals(0, -1)", Checks.BAD_ARGUMENT, () -> k.approvals(0, -1));
     }
 
     private static void quorum() {
@@ -129,7 +129,7 @@ public final class FactsTest {
         Checks.due("quorum(0)", k.quorum(0), 2);
         Checks.due("quorum(1)", k.quorum(1), 0);
         Checks.due("quorum(2)", k.quorum(2), 5);
-        Checks.refuses(k, "quorum(3)", Checks.NO_INDEX, () -> k.quorum(3));
-        Checks.refuses(k, "quorum(-1)", Checks.NO_INDEX, () -> k.quorum(-1));
+        Checks.refuses("quorum(3)", Checks.NO_INDEX, () -> k.quorum(3));
+        Checks.refuses("quorum(-1)", Checks.NO_INDEX, () -> k.quorum(-1));
     }
 }

@@ -29,10 +29,10 @@ public final class ReasonsTest {
         Checks.due("not drifted before quarantined", k.state(0, 2), 1);
         Checks.due("a quarantined node does not hold up", k.state(1, 0), 5);
         k.tick(5);
-        Checks.refuses(k, "state(2, 0)", Checks.NO_INDEX, () -> k.state(2, 0));
-        Checks.refuses(k, "state(-1, 0)", Checks.NO_INDEX, () -> k.state(-1, 0));
-        Checks.refuses(k, "state(0, 3)", Checks.NO_INDEX, () -> k.state(0, 3));
-        Checks.refuses(k, "state(0, -1)", Checks.NO_INDEX, () -> k.state(0, -1));
+        Checks.refuses("state(2, 0)", Checks.NO_INDEX, () -> k.state(2, 0));
+        Checks.refuses("state(-1, 0)", Checks.NO_INDEX, () -> k.state(-1, 0));
+        Checks.refuses("state(0, 3)", Checks.NO_INDEX, () -> k.state(0, 3));
+        Checks.refuses("state(0, -1)", Checks.NO_INDEX, () -> k.state(0, -1));
         DesiredStateKeeper same = Checks.keeper("D21105" + "11" + "0" + "w001w101");
         Checks.due("the same ring does not hold up", same.state(1, 0), 0);
         Checks.due("a higher ring does not hold up", Checks.keeper("D2110510" + "0w001w101").state(1, 0), 0);
@@ -51,8 +51,8 @@ public final class ReasonsTest {
         Checks.due("faults do not matter", k.next(0), 1);
         k.tick(1);
         Checks.due("quarantine does", k.next(0), -9);
-        Checks.refuses(k, "next(1)", Checks.NO_INDEX, () -> k.next(1));
-        Checks.refuses(k, "next(-1)", Checks.NO_INDEX, () -> k.next(-1));
+        Checks.refuses("next(1)", Checks.NO_INDEX, () -> k.next(1));
+        Checks.refuses("next(-1)", Checks.NO_INDEX, () -> k.next(-1));
     }
 
     private static void breaks() {
@@ -68,12 +68,12 @@ public final class ReasonsTest {
         k.drift(0, 1, 2);
         Checks.due("a need broken by its second component", k.breaks(0, 1, 1), 0b001);
         Checks.due("a need that still holds", k.breaks(0, 1, 3), 0);
-        Checks.refuses(k, "breaks(2, 0, 4)", Checks.NO_INDEX, () -> k.breaks(2, 0, 4));
-        Checks.refuses(k, "breaks(-1, 0, 0)", Checks.NO_INDEX, () -> k.breaks(-1, 0, 0));
-        Checks.refuses(k, "breaks(0, 3, 0)", Checks.NO_INDEX, () -> k.breaks(0, 3, 0));
-        Checks.refuses(k, "breaks(0, -1, 0)", Checks.NO_INDEX, () -> k.breaks(0, -1, 0));
-        Checks.refuses(k, "breaks(0, 0, 4)", Checks.BAD_ARGUMENT, () -> k.breaks(0, 0, 4));
-        Checks.refuses(k, "breaks(0, 0, -1)", Checks.BAD_ARGUMENT, () -> k.breaks(0, 0, -1));
+        Checks.refuses("breaks(2, 0, 4)", Checks.NO_INDEX, () -> k.breaks(2, 0, 4));
+        Checks.refuses("breaks(-1, 0, 0)", Checks.NO_INDEX, () -> k.breaks(-1, 0, 0));
+        Checks.refuses("breaks(0, 3, 0)", Checks.NO_INDEX, () -> k.breaks(0, 3, 0));
+        Checks.refuses("breaks(0, -1, 0)", Checks.NO_INDEX, () -> k.breaks(0, -1, 0));
+        Checks.refuses("breaks(0, 0, 4)", Checks.BAD_ARGUMENT, () -> k.breaks(0, 0, 4));
+        Checks.refuses("breaks(0, 0, -1)", Checks.BAD_ARGUMENT, () -> k.breaks(0, 0, -1));
     }
 
     private static void holdsUp() {
@@ -90,8 +90,8 @@ public final class ReasonsTest {
         Checks.due("holdsUp(0) of two", k.holdsUp(0), 2);
         k.setQuorum(0, 1);
         Checks.due("holdsUp(0) where nothing is approved", k.holdsUp(0), 0);
-        Checks.refuses(k, "holdsUp(2)", Checks.NO_INDEX, () -> k.holdsUp(2));
-        Checks.refuses(k, "holdsUp(-1)", Checks.NO_INDEX, () -> k.holdsUp(-1));
+        Checks.refuses("holdsUp(2)", Checks.NO_INDEX, () -> k.holdsUp(2));
+        Checks.refuses("holdsUp(-1)", Checks.NO_INDEX, () -> k.holdsUp(-1));
     }
 
     private static void missing() {
@@ -111,7 +111,7 @@ public final class ReasonsTest {
         k.wish(0, 0, 0);
         Checks.due("version 0 counts, too", k.missing(0), 6);
         Checks.due("the quorum 0", k.missing(1), 0);
-        Checks.refuses(k, "missing(2)", Checks.NO_INDEX, () -> k.missing(2));
-        Checks.refuses(k, "missing(-1)", Checks.NO_INDEX, () -> k.missing(-1));
+        Checks.refuses("missing(2)", Checks.NO_INDEX, () -> k.missing(2));
+        Checks.refuses("missing(-1)", Checks.NO_INDEX, () -> k.missing(-1));
     }
 }

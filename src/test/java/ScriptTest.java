@@ -89,34 +89,36 @@ public final class ScriptTest {
 
     private static void scriptArguments() {
         DesiredStateKeeper k = some();
-        Checks.refuses(k, "n = 0", Checks.BAD_ARGUMENT, () -> k.runScript(0, 0));
-        Checks.refuses(k, "n = -1", Checks.BAD_ARGUMENT, () -> k.runScript(-1, 8000));
-        Checks.refuses(k, "n = 5", Checks.BAD_ARGUMENT, () -> k.runScript(5, 8000));
-        Checks.refuses(k, "script = -1", Checks.BAD_ARGUMENT, () -> k.runScript(1, -1));
-        Checks.refuses(k, "the least script", Checks.BAD_ARGUMENT, () -> k.runScript(4, Long.MIN_VALUE));
-        Checks.refuses(k, "five digits", Checks.BAD_ARGUMENT, () -> k.runScript(1, 10000));
-        Checks.refuses(k, "nine digits", Checks.BAD_ARGUMENT, () -> k.runScript(2, 1_0000_0000L));
-        Checks.refuses(k, "thirteen digits", Checks.BAD_ARGUMENT, () -> k.runScript(3, 1_0000_0000_0000L));
-        Checks.refuses(k, "seventeen digits", Checks.BAD_ARGUMENT, () -> k.runScript(4, 1_0000_0000_0000_0000L));
-        Checks.refuses(k, "the greatest script", Checks.BAD_ARGUMENT, () -> k.runScript(4, Long.MAX_VALUE));
+        Checks.refuses("n = 0", Checks.BAD_ARGUMENT, () -> k.runScript(0, 0));
+        Checks.refuses("n = -1", Checks.BAD_ARGUMENT, () -> k.runScript(-1, 8000));
+        Checks.refuses("n = 5", Checks.BAD_ARGUMENT, () -> k.runScript(5, 8000));
+        Checks.refuses("script = -1", Checks.BAD_ARGUMENT, () -> k.runScript(1, -1));
+        Checks.refuses("the least script", Checks.BAD_ARGUMENT, () -> k.runScript(4, Long.MIN_VALUE));
+        Checks.refuses("five digits", Checks.BAD_ARGUMENT, () -> k.runScript(1, 10000));
+        Checks.refuses("nine digits", Checks.BAD_ARGUMENT, () -> k.runScript(2, 1_0000_0000L));
+        Checks.refuses("thirteen digits", Checks.BAD_ARGUMENT, () -> k.runScript(3, 1_0000_0000_0000L));
+        Checks.refuses("seventeen digits", Checks.BAD_ARGUMENT, () -> k.runScript(4, 1_0000_0000_0000_0000L));
+        Checks.refuses("the greatest script", Checks.BAD_ARGUMENT, () -> k.runScript(4, Long.MAX_VALUE));
     }
 
     /** Plays the rounds by calls of the face. */
     private static int played(DesiredStateKeeper k, long seed, int m) {
         int before = k.about(6);
+        int nodes = k.about(0);
+        int components = k.about(1);
         long x = seed;
         for (int i = 0; i < m; i++) {
             x = x * 6364136223846793005L + 1442695040888963407L;
             int r = (int) (x >>> 33);
-            int n = r / 64 % k.about(0);
+            int n = r / 64 % nodes;
             if (r % 3 == 0) {
-                k.drift(n, r / 4 % k.about(1), r / 1024 % 4);
+                k.drift(n, r / 4 % components, r / 1024 % 4);
             } else if (r % 3 == 1) {
                 k.setFaults(n, r / 4096 % 4);
             }
             k.tick(1);
         }
-        return k.about(6) - before + 1000 * (k.about(0) - Integer.bitCount(k.about(7)));
+        return k.about(6) - before + 1000 * (nodes - Integer.bitCount(k.about(7)));
     }
 
     private static void simulate() {
@@ -143,8 +145,8 @@ public final class ScriptTest {
 
     private static void simulateArguments() {
         DesiredStateKeeper k = some();
-        Checks.refuses(k, "m = 0", Checks.BAD_ARGUMENT, () -> k.simulate(0, 0));
-        Checks.refuses(k, "m = -1", Checks.BAD_ARGUMENT, () -> k.simulate(0, -1));
-        Checks.refuses(k, "m = 61", Checks.BAD_ARGUMENT, () -> k.simulate(0, 61));
+        Checks.refuses("m = 0", Checks.BAD_ARGUMENT, () -> k.simulate(0, 0));
+        Checks.refuses("m = -1", Checks.BAD_ARGUMENT, () -> k.simulate(0, -1));
+        Checks.refuses("m = 61", Checks.BAD_ARGUMENT, () -> k.simulate(0, 61));
     }
 }

@@ -9,7 +9,7 @@ public final class SlotTest {
         String early = Checks.sight(k);
         Checks.due("save(0)", k.save(0), 2);
         Checks.due("save changes nothing", Checks.sight(k), early);
-        Checks.refuses(k, "restore(1) of an empty slot", Checks.BAD_STATE, () -> k.restore(1));
+        Checks.refuses("restore(1) of an empty slot", Checks.BAD_STATE, () -> k.restore(1));
         Checks.due("save is no action, and keeps what is remembered", k.undo(), 2);
         k.dismiss(3);
         k.setQuorum(0, 4);
@@ -20,7 +20,7 @@ public final class SlotTest {
         Checks.due("save(1)", k.save(1), 7);
         Checks.due("restore(0)", k.restore(0), 2);
         Checks.due("what is restored", Checks.sight(k), early);
-        Checks.refuses(k, "undo after restore", Checks.BAD_STATE, k::undo);
+        Checks.refuses("undo after restore", Checks.BAD_STATE, k::undo);
         k.tick(1);
         Checks.due("restore is no action", k.undo(), 0);
         Checks.due("restore(1)", k.restore(1), 7);
@@ -38,12 +38,12 @@ public final class SlotTest {
     }
 
     private static void wrongSlots(DesiredStateKeeper k) {
-        Checks.refuses(k, "save(2)", Checks.NO_INDEX, () -> k.save(2));
-        Checks.refuses(k, "save(-1)", Checks.NO_INDEX, () -> k.save(-1));
-        Checks.refuses(k, "restore(2)", Checks.NO_INDEX, () -> k.restore(2));
-        Checks.refuses(k, "restore(-1)", Checks.NO_INDEX, () -> k.restore(-1));
+        Checks.refuses("save(2)", Checks.NO_INDEX, () -> k.save(2));
+        Checks.refuses("save(-1)", Checks.NO_INDEX, () -> k.save(-1));
+        Checks.refuses("restore(2)", Checks.NO_INDEX, () -> k.restore(2));
+        Checks.refuses("restore(-1)", Checks.NO_INDEX, () -> k.restore(-1));
         k.tick(1);
-        Checks.refuses(k, "restore(-1)", Checks.NO_INDEX, () -> k.restore(-1));
+        Checks.refuses("restore(-1)", Checks.NO_INDEX, () -> k.restore(-1));
         Checks.due("a refused restore forgets nothing", k.undo(), 0);
     }
 }

@@ -14,15 +14,15 @@ public final class TextTest {
 
     private static void append() {
         DesiredStateKeeper k = new DesiredStateKeeper();
-        Checks.refuses(k, "append(-1)", Checks.BAD_ARGUMENT, () -> k.append(-1));
-        Checks.refuses(k, "append(256)", Checks.BAD_ARGUMENT, () -> k.append(256));
+        Checks.refuses("append(-1)", Checks.BAD_ARGUMENT, () -> k.append(-1));
+        Checks.refuses("append(256)", Checks.BAD_ARGUMENT, () -> k.append(256));
         Checks.due("append(0)", k.append(0), 1);
         Checks.due("append(255)", k.append(255), 2);
         for (int i = 3; i <= 160; i++) {
             Checks.due("append number " + i, k.append('w'), i);
         }
-        Checks.refuses(k, "append to a full text", Checks.BAD_STATE, () -> k.append('w'));
-        Checks.refuses(k, "append(256) to a full text", Checks.BAD_ARGUMENT, () -> k.append(256));
+        Checks.refuses("append to a full text", Checks.BAD_STATE, () -> k.append('w'));
+        Checks.refuses("append(256) to a full text", Checks.BAD_ARGUMENT, () -> k.append(256));
         Checks.due("length of a full text", k.clearText(), 160);
     }
 
@@ -40,7 +40,7 @@ public final class TextTest {
         Checks.write(k, text);
         Checks.due("errorPosition of " + text, k.errorPosition(), want);
         if (want != DesiredStateKeeper.NONE) {
-            Checks.refuses(k, "load of " + text, Checks.BAD_STATE, k::load);
+            Checks.refuses("load of " + text, Checks.BAD_STATE, k::load);
         }
         Checks.due("length of " + text, k.clearText(), text.length());
     }
@@ -159,9 +159,9 @@ public final class TextTest {
         Checks.due("faults are gone", k.node(0, 1), 0);
         Checks.due("strikes are gone", k.node(0, 2), 0);
         Checks.due("quarantines are gone", k.node(0, 3), -9);
-        Checks.refuses(k, "undo after load", Checks.BAD_STATE, k::undo);
-        Checks.refuses(k, "restore(0) after load", Checks.BAD_STATE, () -> k.restore(0));
-        Checks.refuses(k, "restore(1) after load", Checks.BAD_STATE, () -> k.restore(1));
+        Checks.refuses("undo after load", Checks.BAD_STATE, k::undo);
+        Checks.refuses("restore(0) after load", Checks.BAD_STATE, () -> k.restore(0));
+        Checks.refuses("restore(1) after load", Checks.BAD_STATE, () -> k.restore(1));
         k.wish(0, 1, 3);
         Checks.due("load again", k.load(), 2);
         Checks.due("load again brings the same", Checks.sight(k), loaded);
@@ -187,7 +187,7 @@ public final class TextTest {
         k.save(1);
         k.tick(2);
         Checks.write(k, "D33305");
-        Checks.refuses(k, "load of half a text", Checks.BAD_STATE, k::load);
+        Checks.refuses("load of half a text", Checks.BAD_STATE, k::load);
         Checks.due("remembered states are kept", k.undo(), 1);
         Checks.due("slots are kept", k.restore(1), 0);
     }

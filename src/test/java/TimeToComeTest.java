@@ -8,33 +8,39 @@ public final class TimeToComeTest {
         Checks.end("TimeToComeTest");
     }
 
-    private static void ahead() {
+    private static DesiredStateKeeper some() {
         DesiredStateKeeper k = Checks.keeper("D2220501" + "00" + "n0112w002w012w101");
         k.setFaults(0, 5);
         k.approve(0, 1, 2);
-        String before = Checks.sight(k);
-        DesiredStateKeeper twin = Checks.keeper("D2220501" + "00" + "n0112w002w012w101");
-        twin.setFaults(0, 5);
-        twin.approve(0, 1, 2);
+        return k;
+    }
+
+    private static void ahead() {
         for (int t = 0; t <= 99; t++) {
+            DesiredStateKeeper now = some();
+            DesiredStateKeeper then = some();
+            for (int i = 0; i < t; i++) {
+                then.tick(1);
+            }
             for (int n = 0; n < 2; n++) {
                 for (int what = 0; what <= 6; what++) {
-                    Checks.due("ahead(" + t + ", " + n + ", " + what + ")", k.ahead(t, n, what), twin.node(n, what));
+                    Checks.due("ahead(" + t + ", " + n + ", " + what + ")", now.ahead(t, n, what), then.node(n, what));
                 }
             }
-            twin.tick(1);
         }
+        DesiredStateKeeper k = some();
+        String before = Checks.sight(k);
         Checks.due("ahead(2, 0, 3)", k.ahead(2, 0, 3), 7);
         Checks.due("ahead(7, 0, 3)", k.ahead(7, 0, 3), -9);
         Checks.due("ahead(99, 0, 6)", k.ahead(99, 0, 6), 6);
         Checks.due("ahead changes nothing", Checks.sight(k), before);
         Checks.due("ahead is no action", k.undo(), 1);
-        Checks.refuses(k, "ahead(0, 2, 0)", Checks.NO_INDEX, () -> k.ahead(0, 2, 0));
-        Checks.refuses(k, "ahead(100, -1, 7)", Checks.NO_INDEX, () -> k.ahead(100, -1, 7));
-        Checks.refuses(k, "ahead(100, 0, 0)", Checks.BAD_ARGUMENT, () -> k.ahead(100, 0, 0));
-        Checks.refuses(k, "ahead(-1, 0, 0)", Checks.BAD_ARGUMENT, () -> k.ahead(-1, 0, 0));
-        Checks.refuses(k, "ahead(0, 0, 7)", Checks.BAD_ARGUMENT, () -> k.ahead(0, 0, 7));
-        Checks.refuses(k, "ahead(0, 0, -1)", Checks.BAD_ARGUMENT, () -> k.ahead(0, 0, -1));
+        Checks.refuses("ahead(0, 2, 0)", Checks.NO_INDEX, () -> k.ahead(0, 2, 0));
+        Checks.refuses("ahead(100, -1, 7)", Checks.NO_INDEX, () -> k.ahead(100, -1, 7));
+        Checks.refuses("ahead(100, 0, 0)", Checks.BAD_ARGUMENT, () -> k.ahead(100, 0, 0));
+        Checks.refuses("ahead(-1, 0, 0)", Checks.BAD_ARGUMENT, () -> k.ahead(-1, 0, 0));
+        Checks.refuses("ahead(0, 0, 7)", Checks.BAD_ARGUMENT, () -> k.ahead(0, 0, 7));
+        Checks.refuses("ahead(0, 0, -1)", Checks.BAD_ARGUMENT, () -> k.ahead(0, 0, -1));
     }
 
     private static void calmAfter() {

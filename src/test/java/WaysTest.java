@@ -106,21 +106,21 @@ public final class WaysTest {
 
     private static void wrongArguments() {
         DesiredStateKeeper k = Checks.keeper("D23105" + "00" + "000" + "n0112");
-        Checks.refuses(k, "fewest(2)", Checks.NO_INDEX, () -> k.fewest(2));
-        Checks.refuses(k, "fewest(-1)", Checks.NO_INDEX, () -> k.fewest(-1));
-        Checks.refuses(k, "step(2, -1)", Checks.NO_INDEX, () -> k.step(2, -1));
-        Checks.refuses(k, "step(-1, 0)", Checks.NO_INDEX, () -> k.step(-1, 0));
-        Checks.refuses(k, "step(0, -1)", Checks.BAD_ARGUMENT, () -> k.step(0, -1));
-        Checks.refuses(k, "needed(3, 0, 0)", Checks.NO_INDEX, () -> k.needed(3, 4, 0));
-        Checks.refuses(k, "needed(-1, 0, 0)", Checks.NO_INDEX, () -> k.needed(-1, 0, 0));
-        Checks.refuses(k, "needed(0, 4, 3)", Checks.NO_INDEX, () -> k.needed(0, 4, 3));
-        Checks.refuses(k, "needed(0, 0, -1)", Checks.NO_INDEX, () -> k.needed(0, 0, -1));
-        Checks.refuses(k, "needed(0, 4, 0)", Checks.BAD_ARGUMENT, () -> k.needed(0, 4, 0));
-        Checks.refuses(k, "needed(0, -1, 0)", Checks.BAD_ARGUMENT, () -> k.needed(0, -1, 0));
-        Checks.refuses(k, "isPossible(3, 4)", Checks.NO_INDEX, () -> k.isPossible(3, 4));
-        Checks.refuses(k, "isPossible(-1, 0)", Checks.NO_INDEX, () -> k.isPossible(-1, 0));
-        Checks.refuses(k, "isPossible(0, 4)", Checks.BAD_ARGUMENT, () -> k.isPossible(0, 4));
-        Checks.refuses(k, "isPossible(0, -1)", Checks.BAD_ARGUMENT, () -> k.isPossible(0, -1));
+        Checks.refuses("fewest(2)", Checks.NO_INDEX, () -> k.fewest(2));
+        Checks.refuses("fewest(-1)", Checks.NO_INDEX, () -> k.fewest(-1));
+        Checks.refuses("step(2, -1)", Checks.NO_INDEX, () -> k.step(2, -1));
+        Checks.refuses("step(-1, 0)", Checks.NO_INDEX, () -> k.step(-1, 0));
+        Checks.refuses("step(0, -1)", Checks.BAD_ARGUMENT, () -> k.step(0, -1));
+        Checks.refuses("needed(3, 0, 0)", Checks.NO_INDEX, () -> k.needed(3, 4, 0));
+        Checks.refuses("needed(-1, 0, 0)", Checks.NO_INDEX, () -> k.needed(-1, 0, 0));
+        Checks.refuses("needed(0, 4, 3)", Checks.NO_INDEX, () -> k.needed(0, 4, 3));
+        Checks.refuses("needed(0, 0, -1)", Checks.NO_INDEX, () -> k.needed(0, 0, -1));
+        Checks.refuses("needed(0, 4, 0)", Checks.BAD_ARGUMENT, () -> k.needed(0, 4, 0));
+        Checks.refuses("needed(0, -1, 0)", Checks.BAD_ARGUMENT, () -> k.needed(0, -1, 0));
+        Checks.refuses("isPossible(3, 4)", Checks.NO_INDEX, () -> k.isPossible(3, 4));
+        Checks.refuses("isPossible(-1, 0)", Checks.NO_INDEX, () -> k.isPossible(-1, 0));
+        Checks.refuses("isPossible(0, 4)", Checks.BAD_ARGUMENT, () -> k.isPossible(0, 4));
+        Checks.refuses("isPossible(0, -1)", Checks.BAD_ARGUMENT, () -> k.isPossible(0, -1));
     }
 
     private static void needed() {
