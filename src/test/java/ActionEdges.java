@@ -195,8 +195,8 @@ final class ActionEdges {
     }
 
     private static void actions() {
-        Sentences.term("The methods in the section \"actions\" change the state, which consists of versions, approvals, "
-                + "quorums, faults, strikes, quarantines, the time and the number of changes.",
+        Sentences.term("The methods in the section \"actions\" change the state, which consists of versions, "
+                + "approvals, quorums, faults, strikes, quarantines, the time and the number of changes.",
                 "Before each action, the state is remembered.");
         String before = Checks.sight(Recipes.FULL.make());
         for (Action action : allActions()) {

@@ -99,8 +99,8 @@ final class AnswerEdges {
     }
 
     private static void holdsUp() {
-        Sentences.promise(25, "Tells how much a rule holds up.", "Returns the number of pairs of a node and a component "
-                + "whose state is 5 and would not be 5 without this rule.");
+        Sentences.promise(25, "Tells how much a rule holds up.", "Returns the number of pairs of a node and a "
+                + "component whose state is 5 and would not be 5 without this rule.");
         DesiredStateKeeper k = Checks.keeper("D56101" + "00000" + "000000" + "n0111".repeat(2) + "n2131".repeat(7)
                 + "x4151" + "v051v151v251v351v451");
         for (int r = 0; r < 10; r++) {
@@ -132,9 +132,9 @@ final class AnswerEdges {
     }
 
     private static void missing() {
-        Sentences.promise(26, "Tells how many approvals are missing.", "Returns the sum of the numbers of approvals that "
-                + "are missing to the quorum of the component, over all versions of it that are wished on a node on "
-                + "which it is drifted (each version counts once).");
+        Sentences.promise(26, "Tells how many approvals are missing.", "Returns the sum of the numbers of approvals "
+                + "that are missing to the quorum of the component, over all versions of it that are wished on a node "
+                + "on which it is drifted (each version counts once).");
         for (int quorum = 0; quorum <= 5; quorum++) {
             for (int given = 0; given <= 5; given++) {
                 // all four versions are wished where the component is drifted, version 0 on two nodes
@@ -205,8 +205,8 @@ final class AnswerEdges {
                 + "which no component is drifted on any node; NONE if there is none.");
         Checks.due("at once", new DesiredStateKeeper().calmAfter(), 0);
         // with the limit 1, f faults and the length l the change succeeds in the tick 1 + f * l
-        int[][] faultsAndLengths = {{0, 1, 1}, {1, 1, 2}, {9, 1, 10}, {1, 50, 51}, {2, 48, 97}, {7, 14, 99}, {2, 49, 99},
-            {9, 11, NONE}, {3, 33, NONE}, {2, 50, NONE}, {9, 50, NONE}};
+        int[][] faultsAndLengths = {{0, 1, 1}, {1, 1, 2}, {9, 1, 10}, {1, 50, 51}, {2, 48, 97}, {7, 14, 99},
+            {2, 49, 99}, {9, 11, NONE}, {3, 33, NONE}, {2, 50, NONE}, {9, 50, NONE}};
         for (int[] row : faultsAndLengths) {
             DesiredStateKeeper k = Checks.keeper("D211" + row[1] / 10 + row[1] % 10 + "00" + "0" + "w103");
             k.setFaults(1, row[0]);
@@ -246,9 +246,9 @@ final class AnswerEdges {
     }
 
     private static void fewest() {
-        Sentences.promise(29, "Tells how many changes lead to the wish at least: a sequence of changes of components of "
-                + "the node (of any component to any other version, wished or not), each of which is safe when it is "
-                + "made, after which all present versions are the wished ones.",
+        Sentences.promise(29, "Tells how many changes lead to the wish at least: a sequence of changes of components "
+                + "of the node (of any component to any other version, wished or not), each of which is safe when it "
+                + "is made, after which all present versions are the wished ones.",
                 "Returns the length of a shortest such sequence; NONE if there is none.");
         Checks.due("nothing to do", new DesiredStateKeeper().fewest(0), 0);
         DesiredStateKeeper all = Checks.keeper("D56101" + "00000" + "000000" + "w403w413w423w433w443w453");
@@ -294,14 +294,15 @@ final class AnswerEdges {
     }
 
     private static void step() {
-        Sentences.promise(30, "Returns a change of the best way to the wish: of the shortest sequences as in fewest the "
-                + "one that is smallest lexicographically, where a change of component c to the version v is the "
+        Sentences.promise(30, "Returns a change of the best way to the wish: of the shortest sequences as in fewest "
+                + "the one that is smallest lexicographically, where a change of component c to the version v is the "
                 + "number 4 * c + v.",
                 "Returns the number of the change; NONE if there is no such sequence, or it has not so many changes.");
         way("nothing to do", new DesiredStateKeeper(), 0);
         way("one change", Checks.keeper("D11101" + "0" + "0" + "v003"), 0, 0);
         DesiredStateKeeper all = Checks.keeper("D56101" + "00000" + "000000" + "w403w413w423w433w443w453");
         way("the smallest first", all, 4, 3, 7, 11, 15, 19, 23);
+        way("all to nothing", Checks.keeper("D12101" + "0" + "00" + "v003v013"), 0, 0, 4);
         way("the ladder", ladder(), 1, 1, 6, 3, 7);
         DesiredStateKeeper k = ladder();
         k.drift(1, 1, 1);
@@ -356,11 +357,12 @@ final class AnswerEdges {
     }
 
     private static void isPossible() {
-        Sentences.promise(32, "Tells whether a version is possible at all.", "Returns true if there are versions of all "
-                + "components, at least v for c, with which no rule is broken.");
+        Sentences.promise(32, "Tells whether a version is possible at all.", "Returns true if there are versions of "
+                + "all components, at least v for c, with which no rule is broken.");
         for (int x = 1; x <= 3; x++) {
             // from x on component 0 needs of component 5 what it bars
-            DesiredStateKeeper k = Checks.keeper("D16101" + "0" + "000000" + "n0" + x + "52" + "x0" + x + "52" + "v003");
+            DesiredStateKeeper k = Checks.keeper("D16101" + "0" + "000000" + "n0" + x + "52" + "x0" + x + "52"
+                    + "v003");
             for (int v = 0; v <= 3; v++) {
                 Checks.due(v + " with x " + x, k.isPossible(0, v), v < x);
                 Checks.due("the other one", k.isPossible(5, v), true);
@@ -373,6 +375,13 @@ final class AnswerEdges {
                 Checks.due("need of " + y + ", bar of " + z, k.isPossible(0, 1), y < z);
                 Checks.due("0 is always possible", k.isPossible(0, 0), true);
             }
+        }
+        // each component needs of the next one what it bars: nothing is possible but to have none of them
+        DesiredStateKeeper nothing = Checks.keeper("D15101" + "0" + "00000"
+                + "n0111x0111n1121x1121n2131x2131n3141x3141n4101x4101");
+        for (int c = 0; c < 5; c++) {
+            Checks.due("none of them", nothing.isPossible(c, 0), true);
+            Checks.due("one of them", nothing.isPossible(c, 1), false);
         }
         // 0 at 1 is possible, but only with 0 at 2; at least 3 is not
         DesiredStateKeeper more = Checks.keeper("D13101" + "0" + "000" + "n0111n1102n0321x0121");
@@ -435,7 +444,7 @@ final class AnswerEdges {
         String rules = "n0111n0121n0131n0141";
         ranks(Checks.keeper("D56101" + "00000" + "000000" + rules + "v401w401" + "v301w301v311w311"
                 + "v201w201v211w211v221w221" + "v101w101v111w111v121w121v131w131"), 4, 3, 2, 1, 0);
-        // one drifted component comes before four broken rules; then a rule with a high number is no more than a low one
+        // one drifted component comes before four broken rules; a rule with a high number is no more than a low one
         ranks(Checks.keeper("D36101" + "000" + "000000" + rules + "v001w001" + "w153"), 1, 0, 2);
         ranks(Checks.keeper("D26101" + "00" + "000000" + "n0111n1101" + "v011w011" + "v101w101"), 0, 1);
         ranks(Checks.keeper("D26101" + "00" + "000000" + "n0111n1101" + "v001w001" + "v111w111"), 0, 1);

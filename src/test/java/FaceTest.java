@@ -9,16 +9,28 @@ import java.util.stream.Collectors;
 /** The public face is the document's, and nothing else can be seen from outside (LANGUAGE.md, rules 1 and 5). */
 public final class FaceTest {
 
+    private static final String INDEX = " throws IndexOutOfBoundsException";
+    private static final String ARGUMENT = " throws IllegalArgumentException";
+    private static final String STATE = " throws IllegalStateException";
+    private static final String INDEX_ARGUMENT = INDEX + ", IllegalArgumentException";
+    private static final String INDEX_STATE = INDEX + ", IllegalStateException";
+
     private static final String[] METHODS = {
-        "int append(int)", "int clearText()", "int errorPosition()", "int load()", "int about(int)",
-        "int node(int,int)", "int version(int,int,boolean)", "int rule(int,int)", "int approvals(int,int)",
-        "int quorum(int)", "int wish(int,int,int)", "int wishRing(int,int,int)", "int drift(int,int,int)",
-        "int approve(int,int,int)", "int dismiss(int)", "int setQuorum(int,int)", "int setFaults(int,int)",
-        "int pardon(int)", "int tick(int)", "int undo()", "int state(int,int)", "int next(int)",
-        "int breaks(int,int,int)", "int holdsUp(int)", "int missing(int)", "int ahead(int,int,int)",
-        "int calmAfter()", "int fewest(int)", "int step(int,int)", "int needed(int,int,int)",
-        "boolean isPossible(int,int)", "int explains(int,int)", "int ranked(int)", "int runScript(int,long)",
-        "int simulate(long,int)", "int save(int)", "int restore(int)"};
+        "int append(int)" + ARGUMENT + ", IllegalStateException", "int clearText()", "int errorPosition()",
+        "int load()" + STATE, "int about(int)" + ARGUMENT, "int node(int,int)" + INDEX_ARGUMENT,
+        "int version(int,int,boolean)" + INDEX, "int rule(int,int)" + INDEX_ARGUMENT,
+        "int approvals(int,int)" + INDEX_ARGUMENT, "int quorum(int)" + INDEX,
+        "int wish(int,int,int)" + INDEX_ARGUMENT, "int wishRing(int,int,int)" + INDEX_ARGUMENT,
+        "int drift(int,int,int)" + INDEX_ARGUMENT,
+        "int approve(int,int,int)" + INDEX_ARGUMENT + ", IllegalStateException", "int dismiss(int)" + INDEX,
+        "int setQuorum(int,int)" + INDEX_ARGUMENT, "int setFaults(int,int)" + INDEX_ARGUMENT,
+        "int pardon(int)" + INDEX_STATE, "int tick(int)" + ARGUMENT, "int undo()" + STATE,
+        "int state(int,int)" + INDEX, "int next(int)" + INDEX, "int breaks(int,int,int)" + INDEX_ARGUMENT,
+        "int holdsUp(int)" + INDEX, "int missing(int)" + INDEX, "int ahead(int,int,int)" + INDEX_ARGUMENT,
+        "int calmAfter()", "int fewest(int)" + INDEX, "int step(int,int)" + INDEX_ARGUMENT,
+        "int needed(int,int,int)" + INDEX_ARGUMENT, "boolean isPossible(int,int)" + INDEX_ARGUMENT,
+        "int explains(int,int)" + INDEX_ARGUMENT, "int ranked(int)" + INDEX, "int runScript(int,long)" + ARGUMENT,
+        "int simulate(long,int)" + ARGUMENT, "int save(int)" + INDEX, "int restore(int)" + INDEX_STATE};
 
     public static void main(String[] args) {
         Class<?> face = DesiredStateKeeper.class;
@@ -51,8 +63,11 @@ public final class FaceTest {
     }
 
     private static String told(Method method) {
-        return method.getReturnType() + " " + method.getName() + Arrays.stream(method.getParameterTypes())
+        String head = method.getReturnType() + " " + method.getName() + Arrays.stream(method.getParameterTypes())
                 .map(Class::toString).collect(Collectors.joining(",", "(", ")"));
+        Class<?>[] thrown = method.getExceptionTypes();
+        return thrown.length == 0 ? head : head + Arrays.stream(thrown)
+                .map(Class::getSimpleName).collect(Collectors.joining(", ", " throws ", ""));
     }
 
     private static void constructors(Class<?> face) {

@@ -112,8 +112,8 @@ final class ScriptEdges {
     // ---- every command
 
     private static void everyGroup() {
-        Sentences.term("Commands with a node, a component, a version or an approver that does not exist fail, and so does "
-                + "any other group.");
+        Sentences.term("Commands with a node, a component, a version or an approver that does not exist fail, and so "
+                + "does any other group.");
         for (Recipes size : Recipes.values()) {
             DesiredStateKeeper k = null;
             for (int group = 0; group <= 9999; group++) {
@@ -338,8 +338,10 @@ final class ScriptEdges {
             }
         }
         // numbers whose lower 32 bits would be right
-        Unchanged.refused("runScript(1, 2^32 + 8000)", Checks.BAD_ARGUMENT, some -> some.runScript(1, (1L << 32) + 8000));
-        Unchanged.refused("runScript(2, 2^32 + 8000)", Checks.BAD_ARGUMENT, some -> some.runScript(2, (1L << 32) + 8000));
+        Unchanged.refused("runScript(1, 2^32 + 8000)", Checks.BAD_ARGUMENT,
+                some -> some.runScript(1, (1L << 32) + 8000));
+        Unchanged.refused("runScript(2, 2^32 + 8000)", Checks.BAD_ARGUMENT,
+                some -> some.runScript(2, (1L << 32) + 8000));
         Unchanged.refused("both are wrong", Checks.BAD_ARGUMENT, some -> some.runScript(5, -1L));
         Unchanged.refused("both are wrong", Checks.BAD_ARGUMENT, some -> some.runScript(0, Long.MAX_VALUE));
     }
@@ -447,8 +449,8 @@ final class ScriptEdges {
     }
 
     private static void overflow() {
-        Sentences.promise(36, "Each round first replaces x by x * 6364136223846793005L + 1442695040888963407L (with long "
-                + "overflow), and r = (int) (x >>> 33) is computed.");
+        Sentences.promise(36, "Each round first replaces x by x * 6364136223846793005L + 1442695040888963407L (with "
+                + "long overflow), and r = (int) (x >>> 33) is computed.");
         long[] seeds = {Long.MAX_VALUE, Long.MIN_VALUE, -1, 1, 2, 1L << 32, (1L << 32) - 1, 1L << 62, -(1L << 62),
             Long.MAX_VALUE / 3, seedFor(0), seedFor(Integer.MAX_VALUE), seedFor(1 << 30), seedFor((1 << 30) - 1)};
         for (long seed : seeds) {
@@ -474,10 +476,11 @@ final class ScriptEdges {
     }
 
     private static void simulateReturns() {
-        Sentences.promise(36, "Returns the number of changes that are made in these rounds, plus 1000 times the number of "
-                + "nodes with drifted components at the end.");
+        Sentences.promise(36, "Returns the number of changes that are made in these rounds, plus 1000 times the number "
+                + "of nodes with drifted components at the end.");
         Checks.due("nothing", new DesiredStateKeeper().simulate(seedFor(2), 1), 0);
-        DesiredStateKeeper all = Checks.keeper("D52101" + "00000" + "05" + "w001w101w201w301w401" + "w013w113w213w313w413");
+        DesiredStateKeeper all = Checks.keeper("D52101" + "00000" + "05" + "w001w101w201w301w401"
+                + "w013w113w213w313w413");
         Checks.due("a change and a drift on each node", all.simulate(seedFor(2), 1), 5005);
         all.setQuorum(1, 0);
         Checks.due("before the last change of each", all.simulate(seedFor(2), 1), 5005);

@@ -262,7 +262,14 @@ final class TextEdges {
             error(text.substring(0, length), whole ? NONE : length);
         }
         error(SMALL + "w000".repeat(37) + "w00", 159);
-        error("D12101" + "0" + "00" + "w000".repeat(37) + "w00", 160);
+        // full texts that end at each place of an item
+        String two = "D12101" + "0" + "00";
+        for (String item : new String[] {"n0111", "x1303", "w003", "v013"}) {
+            error(two + "n0111".repeat(2) + "w000".repeat(35) + item.substring(0, 1), 160);
+            error(two + "n0111".repeat(1) + "w000".repeat(36) + item.substring(0, 2), 160);
+            error(two + "w000".repeat(37) + item.substring(0, 3), 160);
+            error(two + "n0111".repeat(3) + "w000".repeat(33) + item.substring(0, 4), item.length() == 4 ? NONE : 160);
+        }
     }
 
     private static void wholeTexts() {
@@ -277,7 +284,8 @@ final class TextEdges {
                 }
             }
         }
-        Sentences.term("There are two settings, the limit of strikes (1 to 9) and the length of quarantines (1 to 50).");
+        Sentences.term("There are two settings, the limit of strikes (1 to 9) and the length of quarantines (1 to "
+                + "50).");
         for (int limit = 0; limit <= 9; limit++) {
             error("D11" + limit + "0100", limit >= 1 ? NONE : 3);
         }
@@ -313,7 +321,8 @@ final class TextEdges {
         Sentences.term("a version that is given again replaces the one given before.)");
         for (int first = 0; first <= 3; first++) {
             for (int then = 0; then <= 3; then++) {
-                DesiredStateKeeper k = Checks.keeper(SMALL + "w00" + first + "v00" + then + "w00" + then + "v00" + first);
+                DesiredStateKeeper k = Checks.keeper(SMALL + "w00" + first + "v00" + then + "w00" + then + "v00"
+                        + first);
                 Checks.due("wished " + first + " and then " + then, k.version(0, 0, true), then);
                 Checks.due("present " + then + " and then " + first, k.version(0, 0, false), first);
             }
@@ -321,7 +330,8 @@ final class TextEdges {
     }
 
     private static void errorPosition() {
-        Sentences.promise(4, "Checks the text.", "Returns the error position of the text; NONE if it is a keeper text.");
+        Sentences.promise(4, "Checks the text.",
+                "Returns the error position of the text; NONE if it is a keeper text.");
         Checks.due("of the empty text", new DesiredStateKeeper().errorPosition(), 0);
         Checks.due("of a keeper text", written(SMALL).errorPosition(), -9);
         Checks.due("at the first place", written("E").errorPosition(), 0);
@@ -372,7 +382,27 @@ final class TextEdges {
         Checks.due("time", loaded.about(5), 0);
         Checks.due("changes", loaded.about(6), 0);
         Checks.due("rules", loaded.breaks(0, 0, 3), 0);
+        loadReplacesWays();
         loadReturns();
+    }
+
+    /** What was found for the old rules must not be told for the new ones, though the versions are the same. */
+    private static void loadReplacesWays() {
+        String versions = "w003w013";
+        DesiredStateKeeper k = Checks.keeper("D12101" + "0" + "00" + "n0312n1301" + versions);
+        Checks.due("fewest with rules", k.fewest(0), 3);
+        Checks.write(k, "D12101" + "0" + "00" + versions);
+        k.load();
+        Checks.due("fewest without rules", k.fewest(0), 2);
+        Checks.due("step without rules", k.step(0, 0), 3);
+        Checks.write(k, "D12101" + "0" + "00" + "x0111" + versions);
+        k.load();
+        Checks.due("fewest with a bar", k.fewest(0), NONE);
+        Checks.due("isPossible with a bar", k.isPossible(0, 3), true);
+        Checks.write(k, "D12101" + "0" + "00" + "n0112x0111" + versions);
+        k.load();
+        Checks.due("needed", k.needed(0, 1, 1), 2);
+        Checks.due("isPossible", k.isPossible(0, 1), false);
     }
 
     private static void loadReturns() {

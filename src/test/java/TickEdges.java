@@ -154,7 +154,8 @@ final class TickEdges {
     }
 
     private static void smallestReady() {
-        Sentences.term("If there are ready components, the node attempts a change of the one with the smallest number.");
+        Sentences.term("If there are ready components, the node attempts a change of the one with the smallest "
+                + "number.");
         DesiredStateKeeper k = Checks.keeper("D16101" + "0" + "000000" + "w001w011w021w031w041w051");
         for (int c = 0; c < 6; c++) {
             Checks.due("next", k.next(0), c);
@@ -174,9 +175,9 @@ final class TickEdges {
     }
 
     private static void limits() {
-        Sentences.term("If the node has faults, the attempt fails: its faults decrease by 1, its strikes increase by 1, "
-                + "and if they are equal to the limit then, they become 0, and the quarantine of the node ends at the "
-                + "present time plus the length.");
+        Sentences.term("If the node has faults, the attempt fails: its faults decrease by 1, its strikes increase by "
+                + "1, and if they are equal to the limit then, they become 0, and the quarantine of the node ends at "
+                + "the present time plus the length.");
         for (int limit = 1; limit <= 9; limit++) {
             DesiredStateKeeper k = Checks.keeper("D11" + limit + "50" + "0" + "0" + "w001");
             k.setFaults(0, 9);
@@ -258,8 +259,8 @@ final class TickEdges {
     }
 
     private static void quarantined() {
-        Sentences.term("A node has faults (0 to 9), strikes, and the end of its quarantine, a time; it is quarantined if "
-                + "this is greater than the present time.");
+        Sentences.term("A node has faults (0 to 9), strikes, and the end of its quarantine, a time; it is quarantined "
+                + "if this is greater than the present time.");
         for (int faults = 0; faults <= 9; faults++) {
             DesiredStateKeeper k = Checks.keeper("D11950" + "0" + "0" + "w001");
             k.setFaults(0, faults);

@@ -2,8 +2,9 @@ import java.util.EnumMap;
 import java.util.Map;
 
 /**
- * Looks at all of a keeper that a call could have changed: the state, the rules, the text, both slots and the remembered
- * states. Slots and remembered states can only be seen by restoring them, so each look is at a keeper made anew.
+ * Looks at all of a keeper that a call could have changed: the state, the rules, the text, both slots and the
+ * remembered states. Slots and remembered states can only be seen by restoring them, so each look is at a keeper made
+ * anew.
  */
 final class Unchanged {
 
