@@ -439,6 +439,7 @@ final class AnswerEdges {
                 + "both are equal, by the number of the node (the smallest first).", "Returns the node.");
         ranks(new DesiredStateKeeper(), 0);
         ranks(Checks.keeper("D56101" + "00000" + "000000"), 0, 1, 2, 3, 4);
+        ranks(Checks.keeper("D51101" + "00000" + "0" + "w201w403"), 2, 4, 0, 1, 3);
         ranks(Checks.keeper("D56101" + "01201" + "000000" + "w101w201w211w301w311w321w401w411w421w431"), 4, 3, 2, 1, 0);
         ranks(Checks.keeper("D56101" + "00000" + "000000" + "w003w013w101w111w401w411"), 0, 1, 4, 2, 3);
         String rules = "n0111n0121n0131n0141";
@@ -449,5 +450,7 @@ final class AnswerEdges {
         ranks(Checks.keeper("D26101" + "00" + "000000" + "n0111n1101" + "v011w011" + "v101w101"), 0, 1);
         ranks(Checks.keeper("D26101" + "00" + "000000" + "n0111n1101" + "v001w001" + "v111w111"), 0, 1);
         ranks(Checks.keeper("D26101" + "00" + "000000" + "w053" + "w101"), 0, 1);
+        // the wish of node 0 would break the rule, the present versions of node 1 do
+        ranks(Checks.keeper("D22101" + "00" + "00" + "n0111" + "w001" + "v101"), 1, 0);
     }
 }

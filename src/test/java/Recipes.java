@@ -1,5 +1,5 @@
 /**
- * Keepers of the smallest size, of a middle one and of the greatest, made anew for each look at them: an object is used
+ * Keepers of the smallest size, of two between and of the greatest, made anew for each look at them: an object is used
  * for at most 512 calls, and the greatest takes 184 of them. None of their texts is a keeper text.
  */
 enum Recipes {
@@ -22,6 +22,18 @@ enum Recipes {
             k.save(0);
             k.setFaults(1, 1);
             k.tick(3);
+            return k;
+        }
+    },
+
+    /** More nodes than components; one state is remembered, slot 1 alone is filled, the text is one sign too long. */
+    WIDE(5, 2, 1, 1) {
+        @Override
+        DesiredStateKeeper make() {
+            DesiredStateKeeper k = Checks.keeper("D52103" + "00112" + "00" + "n0112" + "w001w101w301w401w412v012");
+            k.append('D');
+            k.save(1);
+            k.tick(2);
             return k;
         }
     },

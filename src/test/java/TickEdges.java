@@ -334,6 +334,7 @@ final class TickEdges {
         Checks.due("the node comes again", k.next(4), 5);
         Checks.due("pardon is an action", k.undo(), 13);
         Checks.due("taken back", k.node(4, 3), 52);
+        pardonAtThePresentTime();
 
         Sentences.promise(19, "Returns by how many ticks the quarantine ends earlier.");
         for (int length : new int[] {1, 2, 50}) {
@@ -354,6 +355,18 @@ final class TickEdges {
             Checks.due("one tick before the end", twice.pardon(0), 1);
             Checks.refuses("pardon again", Checks.BAD_STATE, () -> twice.pardon(0));
         }
+    }
+
+    /** The present time, and not another number: there are more changes than ticks, and later times were asked for. */
+    private static void pardonAtThePresentTime() {
+        DesiredStateKeeper k = Checks.keeper("D51150" + "00000" + "0" + "w001w101w201w301w401");
+        k.setFaults(4, 1);
+        k.tick(1);
+        Checks.due("changes", k.about(6), 4);
+        Checks.due("quarantined until later", k.ahead(20, 4, 3), 51);
+        k.pardon(4);
+        Checks.due("no quarantine", k.node(4, 3), NONE);
+        Checks.due("the next attempt", k.tick(1), 1);
     }
 
     private static DesiredStateKeeper quarantined(int length, int passed) {
