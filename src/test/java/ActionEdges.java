@@ -196,18 +196,14 @@ final class ActionEdges {
 
     private static void actions() {
         Sentences.term("The methods in the section \"actions\" change the state, which consists of versions, "
-                + "approvals, quorums, faults, strikes, quarantines, the time and the number of changes.",
-                "Before each action, the state is remembered.");
+                + "approvals, quorums, faults, strikes, quarantines, the time and the number of changes.");
         String before = Checks.sight(Recipes.FULL.make());
         for (Action action : allActions()) {
             DesiredStateKeeper changed = Recipes.FULL.make();
             action.body.run(changed);
             Checks.due(action.name + " changes the state", Checks.sight(changed).equals(before), false);
-            DesiredStateKeeper undone = Recipes.FULL.make();
-            action.body.run(undone);
-            Checks.due("undo of " + action.name, undone.undo(), 13);
-            Checks.due("the state after undo of " + action.name, Checks.sight(undone), before);
         }
+        // all of it comes back: after these actions each of its parts is another one
         DesiredStateKeeper many = Recipes.FULL.make();
         for (Action action : allActions()) {
             action.body.run(many);
@@ -217,6 +213,14 @@ final class ActionEdges {
             Checks.due("undo of many", many.undo(), left);
         }
         Checks.due("the state after undo of many", Checks.sight(many), before);
+
+        Sentences.term("Before each action, the state is remembered.");
+        for (Action action : allActions()) {
+            DesiredStateKeeper undone = Recipes.FULL.make();
+            action.body.run(undone);
+            Checks.due("undo of " + action.name, undone.undo(), 13);
+            Checks.due("the state after undo of " + action.name, Checks.sight(undone), before);
+        }
     }
 
     private static void actionsThatChangeNothing() {

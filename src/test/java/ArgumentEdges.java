@@ -2,7 +2,9 @@ import java.lang.reflect.InvocationTargetException;
 import java.lang.reflect.Method;
 import java.util.ArrayList;
 import java.util.Arrays;
+import java.util.HashSet;
 import java.util.List;
+import java.util.Set;
 import java.util.TreeSet;
 
 /**
@@ -238,15 +240,14 @@ final class ArgumentEdges {
             call.parametersAllowTheirRanges();
             call.refusalsChangeNothing();
         }
-        Sentences.term("If several exceptions apply to a call, the one that its description names first is thrown.",
-                "IndexOutOfBoundsException means that a node, a component, a rule, an approver or a rank does not "
-                        + "exist, or that a slot is not 0 or 1.",
-                "IllegalArgumentException means that another argument, a version for instance, is out of its range.");
-        for (ArgumentEdges call : calls) {
-            for (Recipes size : Recipes.values()) {
-                call.grid(size);
-            }
-        }
+        Sentences.term("IndexOutOfBoundsException means that a node, a component, a rule, an approver or a rank does "
+                + "not exist, or that a slot is not 0 or 1.");
+        grids(calls, Set.of(Checks.NO_INDEX));
+        Sentences.term("IllegalArgumentException means that another argument, a version for instance, is out of its "
+                + "range.");
+        grids(calls, Set.of(Checks.BAD_ARGUMENT));
+        Sentences.term("If several exceptions apply to a call, the one that its description names first is thrown.");
+        grids(calls, Set.of(Checks.NO_INDEX, Checks.BAD_ARGUMENT));
         Sentences.term("---- why changes do not happen; these and all following methods up to the save slots change "
                 + "nothing.");
         for (ArgumentEdges call : calls) {
@@ -287,15 +288,20 @@ final class ArgumentEdges {
         return method.getName() + Arrays.toString(arguments);
     }
 
-    private Class<?> due(Recipes size, Object[] arguments) {
+    /** All exceptions that apply, the one that is named first first. */
+    private List<Class<?>> applying(Recipes size, Object[] arguments) {
+        List<Class<?>> all = new ArrayList<>();
         for (Refusal refusal : refusals) {
-            for (int i : refusal.parameters) {
-                if (!parameters[i].allows(size, arguments[i])) {
-                    return refusal.thrown;
-                }
+            if (Arrays.stream(refusal.parameters).anyMatch(i -> !parameters[i].allows(size, arguments[i]))) {
+                all.add(refusal.thrown);
             }
         }
-        return null;
+        return all;
+    }
+
+    private Class<?> due(Recipes size, Object[] arguments) {
+        List<Class<?>> all = applying(size, arguments);
+        return all.isEmpty() ? null : all.get(0);
     }
 
     /** Right arguments, each the first or each the last of its range; null if there are none. */
@@ -357,7 +363,30 @@ final class ArgumentEdges {
         }
     }
 
-    private void grid(Recipes size) {
+    private static void grids(List<ArgumentEdges> calls, Set<Class<?>> applying) {
+        for (ArgumentEdges call : calls) {
+            for (Recipes size : Recipes.values()) {
+                call.grid(size, applying);
+            }
+        }
+    }
+
+    /** All combinations of edges to which just these exceptions apply. */
+    private void grid(Recipes size, Set<Class<?>> applying) {
+        DesiredStateKeeper k = null;
+        int calls = 0;
+        for (Object[] row : combinations(size)) {
+            if (new HashSet<>(applying(size, row)).equals(applying)) {
+                if (calls % CALLS_FOR_A_GRID == 0) {
+                    k = size.make();
+                }
+                calls++;
+                Checks.due(size + ": " + told(row) + " throws", thrownBy(k, row), due(size, row));
+            }
+        }
+    }
+
+    private List<Object[]> combinations(Recipes size) {
         List<Object[]> rows = new ArrayList<>();
         rows.add(new Object[0]);
         for (Parameter parameter : parameters) {
@@ -371,16 +400,7 @@ final class ArgumentEdges {
             }
             rows = longer;
         }
-        DesiredStateKeeper k = null;
-        for (int i = 0; i < rows.size(); i++) {
-            if (i % CALLS_FOR_A_GRID == 0) {
-                k = size.make();
-            }
-            Class<?> want = due(size, rows.get(i));
-            Class<?> got = thrownBy(k, rows.get(i));
-            boolean byState = stateMayRefuse && want == null && got == Checks.BAD_STATE;
-            Checks.due(size + ": " + told(rows.get(i)) + " throws", byState ? null : got, want);
-        }
+        return rows;
     }
 
     private void changesNothing() {

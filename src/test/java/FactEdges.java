@@ -32,9 +32,14 @@ final class FactEdges {
 
     private static void newObject() {
         Sentences.term("A new object has one node in ring 0, one component with the versions 0 and the quorum 0, no "
-                + "rules, no approvals, the limit 3 and the length 5.", "The time is 0 at first, and so is the number "
-                + "of changes.");
+                + "rules, no approvals, the limit 3 and the length 5.");
         newFacts(new DesiredStateKeeper());
+        Sentences.term("The time is 0 at first, and so is the number of changes.");
+        for (DesiredStateKeeper k : new DesiredStateKeeper[] {new DesiredStateKeeper(),
+            Checks.keeper("D56150" + "00000" + "000000" + "w001v453")}) {
+            Checks.due("time", k.about(5), 0);
+            Checks.due("changes", k.about(6), 0);
+        }
         Sentences.promise(1, "Creates a keeper with one node, as described above.");
         newFacts(new DesiredStateKeeper());
         DesiredStateKeeper first = Recipes.NEW.make();
@@ -204,8 +209,20 @@ final class FactEdges {
     }
 
     private static void quorums() {
-        Sentences.term("Each component has a quorum from 0 to 5.", "A version of a component is approved if there are "
-                + "at least as many of them as the quorum of the component.");
+        Sentences.term("Each component has a quorum from 0 to 5.");
+        for (int quorum = 0; quorum <= 5; quorum++) {
+            DesiredStateKeeper k = Checks.keeper("D16101" + "0" + quorum + "0123" + quorum);
+            Checks.due("of the first component", k.quorum(0), quorum);
+            Checks.due("of the last component", k.quorum(5), quorum);
+            Checks.due("of another one", k.quorum(4), 3);
+            k.setQuorum(4, quorum);
+            Checks.due("set", k.quorum(4), quorum);
+        }
+        for (int v : new int[] {-1, 6}) {
+            Unchanged.refused("setQuorum(0, " + v + ")", Checks.BAD_ARGUMENT, some -> some.setQuorum(0, v));
+        }
+        Sentences.term("A version of a component is approved if there are at least as many of them as the quorum of "
+                + "the component.");
         for (int quorum = 0; quorum <= 5; quorum++) {
             for (int c : new int[] {0, 5}) {
                 DesiredStateKeeper k = Checks.keeper("D16101" + "0" + "555555" + "w0" + c + "3");
@@ -223,9 +240,6 @@ final class FactEdges {
         k.approve(0, 2, 0);
         k.approve(1, 1, 0);
         Checks.due("approvals of other versions and components do not count", k.state(0, 0), 3);
-        for (int v : new int[] {-1, 6}) {
-            Unchanged.refused("setQuorum(0, " + v + ")", Checks.BAD_ARGUMENT, some -> some.setQuorum(0, v));
-        }
     }
 
     private static void about() {

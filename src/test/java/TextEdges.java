@@ -235,8 +235,8 @@ final class TextEdges {
             error(SMALL + "w000" + separator + "w000", SMALL.length() + 4);
             error("D" + separator + "1110100", 1);
         }
-        Sentences.term("The text is read from left to right.",
-                "The error position is the index of the first character that these rules do not allow at its place");
+        Sentences.term("The error position is the index of the first character that these rules do not allow at its "
+                + "place");
         error("d6010900", 0);
         error("D6010900", 1);
         error("D1010900", 2);
@@ -249,6 +249,7 @@ final class TextEdges {
         error(SMALL + "w104w", 9);
         error(SMALL + "w014w", 10);
         error(SMALL + "w004w", 11);
+        Sentences.term("The text is read from left to right.");
         // what a digit may be rests on the digits ahead of it
         error("D2" + "1101" + "00" + "0" + "w100", NONE);
         error("D1" + "1101" + "0" + "0" + "w100", 9);

@@ -12,6 +12,7 @@ final class TickEdges {
         firstStateThatApplies();
         lowerRings();
         safety();
+        unsafeOrReady();
         smallestReady();
         limits();
         lengths();
@@ -126,8 +127,7 @@ final class TickEdges {
 
     private static void safety() {
         Sentences.term("A change of a component of a node to a version is safe if each rule that is broken on the node "
-                + "after it was broken before it, too.", "5, its change to the wished version is not safe; 0, it is "
-                + "ready.");
+                + "after it was broken before it, too.");
         for (int present = 0; present <= 3; present++) {
             for (int wished = 0; wished <= 3; wished++) {
                 for (int other = 0; other <= 3; other++) {
@@ -151,6 +151,23 @@ final class TickEdges {
         Checks.due("the last of ten rules", ten.state(0, 0), 5);
         ten.drift(0, 1, 1);
         Checks.due("holds now", ten.state(0, 0), 0);
+    }
+
+    private static void unsafeOrReady() {
+        Sentences.term("5, its change to the wished version is not safe; 0, it is ready.");
+        DesiredStateKeeper k = Checks.keeper("D12101" + "0" + "00" + "n0212" + "w002");
+        Checks.due("not safe", k.state(0, 0), 5);
+        Checks.due("nothing is attempted", k.tick(1), 0);
+        k.drift(0, 1, 1);
+        Checks.due("one version too low", k.state(0, 0), 5);
+        k.drift(0, 1, 2);
+        k.wish(0, 1, 2);
+        Checks.due("ready", k.state(0, 0), 0);
+        Checks.due("it is changed", k.tick(1), 1);
+        k.wish(0, 0, 1);
+        Checks.due("down again", k.state(0, 0), 0);
+        k.wish(0, 1, 1);
+        Checks.due("what the other one needs", k.state(0, 1), 5);
     }
 
     private static void smallestReady() {
