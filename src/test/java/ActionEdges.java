@@ -15,11 +15,13 @@ final class ActionEdges {
         dismiss();
         setQuorum();
         setFaults();
+        sectionOfActions();
         actions();
         actionsThatChangeNothing();
         fourteenStates();
         notPartOfTheState();
         notActions();
+        otherSections();
         undo();
         refusals();
         save();
@@ -190,8 +192,25 @@ final class ActionEdges {
         all.add(new Action("setQuorum", k -> k.setQuorum(0, 5)));
         all.add(new Action("setFaults", k -> k.setFaults(0, 9)));
         all.add(new Action("pardon", k -> k.pardon(4)));
-        all.add(new Action("tick(1)", k -> k.tick(1)));
+        all.add(new Action("tick", k -> k.tick(1)));
         return all;
+    }
+
+    private static void sectionOfActions() {
+        List<String> names = new ArrayList<>();
+        for (Action action : allActions()) {
+            names.add(action.name);
+        }
+        names.add("undo");
+        Sentences.term(Sentences.ahead("actions", names.toArray(new String[0])));
+        for (Action action : allActions()) {
+            // restore forgets what is remembered, so that the action alone is
+            DesiredStateKeeper k = Recipes.FULL.make();
+            k.restore(1);
+            action.body.run(k);
+            Checks.due(action.name + " is remembered", k.undo(), 0);
+            Checks.refuses("nothing else is", Checks.BAD_STATE, k::undo);
+        }
     }
 
     private static void actions() {
@@ -323,6 +342,30 @@ final class ActionEdges {
         k.errorPosition();
         k.clearText();
         Checks.due("calls for the text are none", k.undo(), 0);
+    }
+
+    private static void otherSections() {
+        Sentences.term(Sentences.ahead("text", "append", "clearText", "errorPosition", "load"));
+        noAction("append", k -> k.append('D'));
+        noAction("clearText", DesiredStateKeeper::clearText);
+        noAction("errorPosition", DesiredStateKeeper::errorPosition);
+        DesiredStateKeeper k = Checks.keeper("D1110100");
+        k.load();
+        Checks.refuses("undo after load", Checks.BAD_STATE, k::undo);
+
+        Sentences.term(Sentences.ahead("save slots", "save", "restore"));
+        noAction("save(0)", some -> some.save(0));
+        noAction("save(1)", some -> some.save(1));
+        DesiredStateKeeper restored = Recipes.MIDDLE.make();
+        restored.restore(0);
+        Checks.refuses("undo after restore", Checks.BAD_STATE, restored::undo);
+    }
+
+    private static void noAction(String call, Unchanged.Body body) {
+        DesiredStateKeeper k = Recipes.MIDDLE.make();
+        body.run(k);
+        Checks.due("undo after " + call + " takes back the action before it", k.undo(), 2);
+        Checks.due("which were ticks", k.about(5), 0);
     }
 
     private static void undo() {

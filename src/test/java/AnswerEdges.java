@@ -7,6 +7,7 @@ final class AnswerEdges {
     }
 
     static void run() {
+        whatItTells();
         state();
         next();
         breaks();
@@ -21,6 +22,24 @@ final class AnswerEdges {
         isPossible();
         explains();
         ranked();
+    }
+
+    private static void whatItTells() {
+        Sentences.term("It tells why a change does not happen, the fewest changes that lead to the wish, what a version "
+                + "needs, what is possible at all, and which drift explains a digest.");
+        DesiredStateKeeper k = Checks.keeper("D12101" + "0" + "00" + "n0211x0313n0313" + "w002");
+        Checks.due("why: it is not safe", k.state(0, 0), 5);
+        Checks.due("why: this rule would break", k.breaks(0, 0, 2), 1);
+        Checks.due("why: without it, it would be safe", k.holdsUp(0), 1);
+        Checks.due("the wish alone breaks the rule", k.fewest(0), NONE);
+        k.wish(0, 1, 1);
+        Checks.due("the fewest changes", k.fewest(0), 2);
+        Checks.due("the need first", k.step(0, 0) * 100 + k.step(0, 1), 502);
+        Checks.due("what version 2 needs", k.needed(0, 2, 1), 1);
+        Checks.due("what version 3 needs", k.needed(0, 3, 1), 3);
+        Checks.due("version 2 is possible", k.isPossible(0, 2), true);
+        Checks.due("version 3 is not", k.isPossible(0, 3), false);
+        Checks.due("the digest 2 is version 2 of component 0 or version 1 of 1", k.explains(0, 2), 1 << 2 | 1 << 5);
     }
 
     // ---- why changes do not happen

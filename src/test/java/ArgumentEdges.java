@@ -161,9 +161,9 @@ final class ArgumentEdges {
         String badVersion = "if v is out of range";
         calls.add(new ArgumentEdges(2, "append", range("`c`: character code, 0 to 255", 0, 255))
                 .refuses(badArgument("if c is out of range", 0)).orByState());
-        calls.add(new ArgumentEdges(6, "about", range("`what`: 0: the number of nodes", 0, 7))
+        calls.add(new ArgumentEdges(6, "about", range("`what`: ", 0, 7))
                 .refuses(badArgument("if what is not 0 to 7", 0)));
-        calls.add(new ArgumentEdges(7, "node", node(), range("`what`: 0: its ring; 1: its faults", 0, 6))
+        calls.add(new ArgumentEdges(7, "node", node(), range("`what`: ", 0, 6))
                 .refuses(noIndex(noNode, 0), badArgument("if what is not 0 to 6", 1)));
         calls.add(new ArgumentEdges(8, "version", node(), component("c"),
                 any("`wished`: true for the wished version, false for the present one", BOTH))
@@ -212,6 +212,7 @@ final class ArgumentEdges {
         calls.add(new ArgumentEdges(27, "ahead", range("`t`: number of ticks, 0 to 99", 0, 99), node(),
                 range("`what`: 0 to 6, as for node", 0, 6))
                 .refuses(noIndex(noNode, 1), badArgument("if t or what is out of range", 0, 2)));
+        calls.add(new ArgumentEdges(28, "calmAfter"));
         calls.add(new ArgumentEdges(29, "fewest", node()).refuses(noIndex(noNode, 0)));
         calls.add(new ArgumentEdges(30, "step", node(),
                 range("`i`: index, from 0, of the change", 0, Integer.MAX_VALUE))
@@ -248,15 +249,21 @@ final class ArgumentEdges {
         grids(calls, Set.of(Checks.BAD_ARGUMENT));
         Sentences.term("If several exceptions apply to a call, the one that its description names first is thrown.");
         grids(calls, Set.of(Checks.NO_INDEX, Checks.BAD_ARGUMENT));
-        Sentences.term("---- why changes do not happen; these and all following methods up to the save slots change "
-                + "nothing.");
-        for (ArgumentEdges call : calls) {
-            if (call.promise >= 22 && call.promise <= 36) {
-                call.changesNothing();
-            }
-        }
-        for (Recipes size : Recipes.values()) {
-            Unchanged.quiet(size, "calmAfter", DesiredStateKeeper::calmAfter);
+        changeNothing(calls, "what there is", "about", "node", "version", "rule", "approvals", "quorum");
+        changeNothing(calls, "why changes do not happen; these and all following methods up to the save slots change "
+                + "nothing", "state", "next", "breaks", "holdsUp", "missing");
+        changeNothing(calls, "the time to come, if there are ticks and no other actions", "ahead", "calmAfter");
+        changeNothing(calls, "ways to the wish", "fewest", "step", "needed", "isPossible");
+        changeNothing(calls, "digests, ranks", "explains", "ranked");
+        changeNothing(calls, "scripts, simulations", "runScript", "simulate");
+    }
+
+    /** The calls of a section of the face leave everything as it was. */
+    private static void changeNothing(List<ArgumentEdges> calls, String section, String... names) {
+        Sentences.term(Sentences.ahead(section, names));
+        for (String name : names) {
+            calls.stream().filter(call -> call.method.getName().equals(name)).findFirst().orElseThrow()
+                    .changesNothing();
         }
     }
 

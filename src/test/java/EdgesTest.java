@@ -9,17 +9,17 @@ public final class EdgesTest {
         ActionEdges.run();
         AnswerEdges.run();
         ScriptEdges.run();
-        introductions();
+        notPromised();
         Sentences.end();
         Checks.end("EdgesTest");
     }
 
-    private static void introductions() {
-        Sentences.saysNothingToTest("A keeper of desired states: nodes have components in versions");
-        Sentences.saysNothingToTest("It tells why a change does not happen, the fewest changes that lead to the wish");
-        for (String title : new String[] {"text", "what there is", "actions", "ways to the wish", "digests, ranks",
-            "scripts, simulations", "save slots"}) {
-            Sentences.saysNothingToTest("the interface says: ---- " + title + ".");
-        }
+    private static void notPromised() {
+        Sentences.saysNothingToTest("what later calls answer is free.");
+        Sentences.saysNothingToTest("How the state is held inside the object is free, as are the speed of each call, "
+                + "the text of toString and the behaviour of equals and hashCode.");
+        Sentences.saysNothingToTest("Use of one object from several threads at once is not promised to be safe.");
+        Sentences.saysNothingToTest("Nothing is promised beyond the answers and state changes described above, and "
+                + "nothing about an object after its 512th call.");
     }
 }

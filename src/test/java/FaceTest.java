@@ -2,7 +2,9 @@ import java.lang.reflect.Constructor;
 import java.lang.reflect.Field;
 import java.lang.reflect.Method;
 import java.lang.reflect.Modifier;
+import java.util.ArrayList;
 import java.util.Arrays;
+import java.util.List;
 import java.util.TreeSet;
 import java.util.stream.Collectors;
 
@@ -32,7 +34,7 @@ public final class FaceTest {
         "int explains(int,int)" + INDEX_ARGUMENT, "int ranked(int)" + INDEX, "int runScript(int,long)" + ARGUMENT,
         "int simulate(long,int)" + ARGUMENT, "int save(int)" + INDEX, "int restore(int)" + INDEX_STATE};
 
-    public static void main(String[] args) {
+    public static void main(String[] args) throws Exception {
         Class<?> face = DesiredStateKeeper.class;
         Checks.due("public final", face.getModifiers(), Modifier.PUBLIC | Modifier.FINAL);
         TreeSet<String> open = new TreeSet<>();
@@ -59,7 +61,32 @@ public final class FaceTest {
             fields(inside);
         }
         Checks.due("some twelve classes at most", face.getDeclaredClasses().length < 12, true);
+        document(Document.read());
         Checks.end("FaceTest");
+    }
+
+    /** The document's face has these methods, in this order, and each has a promise with the same head. */
+    private static void document(Document document) {
+        if (document == null) {
+            return;
+        }
+        List<String> titles = new ArrayList<>(List.of("# DesiredStateKeeper", "What it is", "The public face",
+                "Terms", "Promise 1: A new object"));
+        List<String> heads = new ArrayList<>(List.of("DesiredStateKeeper()"));
+        List<String> methods = new ArrayList<>();
+        for (String line : document.face.subList(2, document.face.size())) {
+            String head = line.replaceAll("^public |;$", "");
+            heads.add(head);
+            methods.add(head.replaceAll("(int|long|boolean) \\w+(, (?=int|long|boolean)|(?=\\)))", "$1$2")
+                    .replaceAll(", (?=int|long|boolean)", ","));
+            titles.add("Promise " + heads.size() + ": " + head.replaceAll("^\\w+ |\\(.*", ""));
+        }
+        titles.add("Not promised");
+        Checks.due("the constant and the constructor", document.face.subList(0, 2),
+                List.of("public static final int NONE = -9;", "public DesiredStateKeeper();"));
+        Checks.due("the methods of the document", methods, Arrays.asList(METHODS));
+        Checks.due("heads of promises", document.heads, heads);
+        Checks.due("sections of the document", document.titles, titles);
     }
 
     private static String told(Method method) {
@@ -86,9 +113,9 @@ public final class FaceTest {
             } else {
                 held++;
             }
-            boolean open = field.getName().equals("NONE");
             if (owner == DesiredStateKeeper.class) {
-                Checks.due("private: " + field, Modifier.isPrivate(is), !open);
+                boolean open = field.toString().equals("public static final int DesiredStateKeeper.NONE");
+                Checks.due("private, but for NONE: " + field, open || Modifier.isPrivate(is), true);
             }
         }
         Checks.due("some twenty fields at most in " + owner, held <= 20, true);

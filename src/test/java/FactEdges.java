@@ -111,8 +111,8 @@ final class FactEdges {
             Unchanged.refused("wish(0, 0, " + v + ")", Checks.BAD_ARGUMENT, k -> k.wish(0, 0, v));
             Unchanged.refused("drift(0, 0, " + v + ")", Checks.BAD_ARGUMENT, k -> k.drift(0, 0, v));
         }
-        Sentences.term("for each component a present version and a wished version; a component is drifted on a node if "
-                + "these differ.");
+        Sentences.term("and for each component a present version and a wished version; a component is drifted on a "
+                + "node if these differ.");
         for (int present = 0; present <= 3; present++) {
             for (int wished = 0; wished <= 3; wished++) {
                 for (int c : new int[] {0, 5}) {
@@ -262,6 +262,77 @@ final class FactEdges {
         }
         great.wish(2, 2, 1);
         Checks.due("node 2 alone is calm", great.about(7), 4);
+        aboutSizes();
+        aboutSettings();
+        aboutTheTime();
+        calmNodes();
+    }
+
+    private static void aboutSizes() {
+        Sentences.promise(6, "0: the number of nodes");
+        for (int nodes = 1; nodes <= 5; nodes++) {
+            Checks.due("about(0)", Checks.keeper("D" + nodes + "6101" + "0".repeat(nodes + 6)).about(0), nodes);
+        }
+        Sentences.promise(6, "1: of components");
+        for (int components = 1; components <= 6; components++) {
+            Checks.due("about(1)", Checks.keeper("D5" + components + "101" + "0".repeat(5 + components)).about(1),
+                    components);
+        }
+        Sentences.promise(6, "2: of rules");
+        for (int rules = 0; rules <= 10; rules++) {
+            Checks.due("about(2)", Checks.keeper("D12101" + "000" + "x0111".repeat(rules)).about(2), rules);
+        }
+    }
+
+    private static void aboutSettings() {
+        Sentences.promise(6, "3: the limit");
+        for (int limit = 1; limit <= 9; limit++) {
+            Checks.due("about(3)", Checks.keeper("D11" + limit + "25" + "00").about(3), limit);
+        }
+        Sentences.promise(6, "4: the length");
+        for (String length : new String[] {"01", "09", "10", "11", "49", "50"}) {
+            Checks.due("about(4)", Checks.keeper("D117" + length + "00").about(4), Integer.parseInt(length));
+        }
+    }
+
+    private static void aboutTheTime() {
+        Sentences.promise(6, "5: the time");
+        DesiredStateKeeper k = Checks.keeper("D21101" + "00" + "0");
+        k.tick(1);
+        Checks.due("after a tick", k.about(5), 1);
+        k.tick(50);
+        Checks.due("after 50 more", k.about(5), 51);
+        k.drift(0, 0, 3);
+        k.wish(1, 0, 1);
+        k.ahead(99, 0, 0);
+        k.simulate(1, 60);
+        Checks.due("other calls take no time", k.about(5), 51);
+        Sentences.promise(6, "6: the number of changes");
+        Checks.due("a drift and a wish are none", k.about(6), 0);
+        k.setFaults(1, 1);
+        k.tick(1);
+        Checks.due("an attempt that fails is none", k.about(6), 1);
+        k.tick(2);
+        Checks.due("both nodes", k.about(6), 2);
+        k.tick(50);
+        Checks.due("nothing is left to change", k.about(6), 2);
+        k.undo();
+        k.undo();
+        Checks.due("changes are taken back", k.about(6), 1);
+    }
+
+    private static void calmNodes() {
+        Sentences.promise(6, "7: the set of the nodes on which no component is drifted, as a bit set");
+        for (int set = 0; set < 32; set++) {
+            DesiredStateKeeper k = Checks.keeper("D56101" + "00000" + "000000" + "v001w001");
+            for (int n = 0; n < 5; n++) {
+                if ((set >> n & 1) == 0) {
+                    k.drift(n, n + 1, 1);
+                    k.wish(n, 5, 3);
+                }
+            }
+            Checks.due("about(7)", k.about(7), set);
+        }
     }
 
     private static void longUse() {
@@ -314,6 +385,107 @@ final class FactEdges {
         Checks.due("one tick before the end", k.node(1, 3), 59);
         k.tick(1);
         Checks.due("at the end", k.node(1, 3), NONE);
+        ringAndFaults();
+        strikesAndQuarantine();
+        setsOfANode();
+        digest();
+    }
+
+    private static void ringAndFaults() {
+        Sentences.promise(7, "0: its ring");
+        DesiredStateKeeper rings = Checks.keeper("D51101" + "02112" + "0");
+        int[] ring = {0, 2, 1, 1, 2};
+        for (int n = 0; n < 5; n++) {
+            Checks.due("node(" + n + ", 0)", rings.node(n, 0), ring[n]);
+        }
+        Sentences.promise(7, "1: its faults");
+        DesiredStateKeeper faults = Checks.keeper("D51901" + "00000" + "0" + "w401");
+        for (int n = 0; n < 5; n++) {
+            faults.setFaults(n, 9 - n);
+        }
+        for (int n = 0; n < 5; n++) {
+            Checks.due("node(" + n + ", 1)", faults.node(n, 1), 9 - n);
+        }
+        faults.tick(3);
+        Checks.due("three attempts", faults.node(4, 1), 2);
+        Checks.due("no attempt", faults.node(0, 1), 9);
+    }
+
+    private static void strikesAndQuarantine() {
+        Sentences.promise(7, "2: its strikes");
+        DesiredStateKeeper k = Checks.keeper("D51403" + "00000" + "0" + "w001w101w201w301w401");
+        for (int n = 0; n < 5; n++) {
+            k.setFaults(n, n);
+        }
+        k.tick(2);
+        int[] strikes = {0, 0, 2, 2, 2};
+        for (int n = 0; n < 5; n++) {
+            Checks.due("node(" + n + ", 2)", k.node(n, 2), strikes[n]);
+        }
+        Sentences.promise(7, "3: the end of its quarantine (NONE if it is not quarantined)");
+        k.tick(1);
+        Checks.due("before the fourth strike", k.node(4, 3), NONE);
+        k.tick(1);
+        Checks.due("with the fourth strike", k.node(4, 3), 7);
+        Checks.due("a node that did not fail so often", k.node(3, 3), NONE);
+        k.tick(2);
+        Checks.due("one tick before the end", k.node(4, 3), 7);
+        k.tick(1);
+        Checks.due("at the end", k.node(4, 3), NONE);
+        k.undo();
+        k.pardon(4);
+        Checks.due("after a pardon", k.node(4, 3), NONE);
+    }
+
+    private static void setsOfANode() {
+        Sentences.promise(7, "4: the set of its drifted components, as a bit set");
+        for (int set = 0; set < 64; set++) {
+            DesiredStateKeeper k = Checks.keeper("D26101" + "00" + "000000" + "v053w053");
+            for (int c = 0; c < 6; c++) {
+                if ((set >> c & 1) == 1) {
+                    k.drift(1, c, 1 + c % 3);
+                }
+            }
+            Checks.due("node(1, 4)", k.node(1, 4), set);
+            Checks.due("of the other node", k.node(0, 4), 0);
+        }
+        Sentences.promise(7, "5: the set of the rules that are broken on it, as a bit set");
+        DesiredStateKeeper k = Checks.keeper("D26101" + "00" + "000000"
+                + "n0112n0113x1121n2131n3141x4151n5101n5103x2131x0151");
+        Checks.due("nothing is there, so all needs and bars hold", k.node(1, 5), 0);
+        k.drift(1, 0, 1);
+        Checks.due("two needs", k.node(1, 5), 0b11);
+        k.drift(1, 1, 2);
+        Checks.due("one need", k.node(1, 5), 0b10);
+        k.drift(1, 2, 3);
+        Checks.due("a bar and a need more", k.node(1, 5), 0b1110);
+        k.drift(1, 3, 1);
+        Checks.due("a need gone, a need and a bar more", k.node(1, 5), 0b100010110);
+        k.drift(1, 5, 1);
+        Checks.due("the last rules", k.node(1, 5), 0b1110010110);
+        Checks.due("of the other node", k.node(0, 5), 0);
+    }
+
+    private static void digest() {
+        Sentences.promise(7, "6: its digest, the sum of (c + 1) * (present version of component c) for all components "
+                + "c");
+        for (int c = 0; c < 6; c++) {
+            for (int v = 0; v <= 3; v++) {
+                DesiredStateKeeper k = Checks.keeper("D26101" + "00" + "000000" + "v1" + c + v + "w103w153");
+                Checks.due("version " + v + " of component " + c + " alone", k.node(1, 6), (c + 1) * v);
+                Checks.due("of the other node", k.node(0, 6), 0);
+            }
+        }
+        int[] versions = {3, 1, 0, 2, 1, 3};
+        for (int components = 1; components <= 6; components++) {
+            DesiredStateKeeper k = Checks.keeper("D1" + components + "101" + "0".repeat(1 + components));
+            int sum = 0;
+            for (int c = 0; c < components; c++) {
+                k.drift(0, c, versions[c]);
+                sum += (c + 1) * versions[c];
+            }
+            Checks.due("of " + components + " components", k.node(0, 6), sum);
+        }
     }
 
     private static void versionCall() {

@@ -7,6 +7,7 @@ final class TickEdges {
     }
 
     static void run() {
+        whatItIs();
         timeFirst();
         nodesInOrder();
         firstStateThatApplies();
@@ -20,6 +21,34 @@ final class TickEdges {
         quarantined();
         tickCall();
         pardon();
+    }
+
+    private static void whatItIs() {
+        Sentences.term("A keeper of desired states: nodes have components in versions, which drift away from the "
+                + "versions that are wished; changes are made node by node if they are approved by a quorum, if lower "
+                + "rings are done, and if they break no rule; nodes on which changes fail again and again are "
+                + "quarantined.");
+        DesiredStateKeeper k = Checks.keeper("D22205" + "10" + "10" + "n0111" + "w001w011w101w111");
+        Checks.due("the lower ring changes what needs no approval", k.tick(1), 1);
+        Checks.due("node 1 alone", k.node(0, 6) * 10 + k.node(1, 6), 2);
+        Checks.due("then the upper ring", k.tick(1), 1);
+        Checks.due("both nodes", k.node(0, 6) * 10 + k.node(1, 6), 22);
+        Checks.due("the rest is not approved", k.tick(1), 0);
+        k.approve(0, 1, 3);
+        Checks.due("now it is", k.tick(2), 2);
+        Checks.due("all is as wished", k.about(7), 3);
+        k.drift(1, 0, 0);
+        k.drift(1, 1, 0);
+        Checks.due("a drift", k.node(1, 4), 3);
+        Checks.due("the change that breaks no rule comes first", k.next(1), 1);
+        Checks.due("and then the other one", k.tick(1) * 10 + k.next(1), 10);
+        k.setFaults(1, 2);
+        k.tick(1);
+        Checks.due("one failure is none too many", k.node(1, 3), NONE);
+        k.tick(1);
+        Checks.due("two are", k.node(1, 3), 13);
+        Checks.due("until the quarantine ends", k.tick(4) * 10 + k.tick(1), 1);
+        Checks.due("all is as wished again", k.about(7), 3);
     }
 
     private static void timeFirst() {
@@ -60,8 +89,8 @@ final class TickEdges {
     }
 
     private static void firstStateThatApplies() {
-        Sentences.term("each component has a state, the first of the following that applies: 1, it is not drifted; 2, "
-                + "the node is quarantined; 3, its wished version is not approved;");
+        Sentences.term("For a node that comes, each component has a state, the first of the following that applies: 1, "
+                + "it is not drifted; 2, the node is quarantined; 3, its wished version is not approved;");
         // component 0: ready but for a need of component 3; 1: not approved; 2: drifted on node 0, too; 3: not drifted
         DesiredStateKeeper k = Checks.keeper("D24150" + "01" + "0100" + "n0131" + "n1131" + "n2131"
                 + "w101w111w121" + "w021w011");
