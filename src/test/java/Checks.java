@@ -7,11 +7,31 @@ final class Checks {
     static final Class<IllegalArgumentException> BAD_ARGUMENT = IllegalArgumentException.class;
     static final Class<IllegalStateException> BAD_STATE = IllegalStateException.class;
 
+    private static final int MINUTES_FOR_A_TEST = 5;
+
     private static int wrong = 0;
     private static int made = 0;
-    private static String topic = "";
+    private static volatile String topic = "";
+
+    static {
+        failIfACallDoesNotEnd();
+    }
 
     private Checks() {
+    }
+
+    private static void failIfACallDoesNotEnd() {
+        Thread watch = new Thread(() -> {
+            try {
+                Thread.sleep(MINUTES_FOR_A_TEST * 60_000L);
+            } catch (InterruptedException e) {
+                return;
+            }
+            System.out.println(topic + "a call does not end");
+            Runtime.getRuntime().halt(1);
+        });
+        watch.setDaemon(true);
+        watch.start();
     }
 
     /** What the checks from now on are about; it is told with each wrong answer. */
