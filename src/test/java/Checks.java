@@ -7,7 +7,7 @@ final class Checks {
     static final Class<IllegalArgumentException> BAD_ARGUMENT = IllegalArgumentException.class;
     static final Class<IllegalStateException> BAD_STATE = IllegalStateException.class;
 
-    private static final int MINUTES_FOR_A_TEST = 5;
+    private static final int MINUTES_FOR_A_TEST = Integer.getInteger("minutes", 5);
 
     private static int wrong = 0;
     private static int made = 0;

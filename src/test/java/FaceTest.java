@@ -47,17 +47,13 @@ public final class FaceTest {
             }
         }
         Checks.due("the methods", open, new TreeSet<>(Arrays.asList(METHODS)));
-        for (Method method : face.getDeclaredMethods()) {
-            if (Modifier.isPrivate(method.getModifiers())) {
-                Checks.due("a private method bears the name " + method.getName(), names.contains(method.getName()),
-                        false);
-            }
-        }
+        hiddenMethods(face, names);
         constructors(face);
         fields(face);
         for (Class<?> inside : face.getDeclaredClasses()) {
             Checks.due("static: " + inside, Modifier.isStatic(inside.getModifiers()), true);
             Checks.due("public: " + inside, Modifier.isPublic(inside.getModifiers()), false);
+            hiddenMethods(inside, names);
             fields(inside);
         }
         Checks.due("some twelve classes at most", face.getDeclaredClasses().length < 12, true);
@@ -97,6 +93,16 @@ public final class FaceTest {
                 .map(Class::getSimpleName).collect(Collectors.joining(", ", " throws ", ""));
     }
 
+    /** Methods that are not of the face bear none of its names, and no method has more than seven parameters. */
+    private static void hiddenMethods(Class<?> owner, TreeSet<String> faceNames) {
+        for (Method method : owner.getDeclaredMethods()) {
+            if (!Modifier.isPublic(method.getModifiers())) {
+                Checks.due("the name of a public method: " + method, faceNames.contains(method.getName()), false);
+            }
+            Checks.due("seven parameters at most: " + method, method.getParameterCount() <= 7, true);
+        }
+    }
+
     private static void constructors(Class<?> face) {
         Constructor<?>[] all = face.getDeclaredConstructors();
         Checks.due("one constructor", all.length, 1);
@@ -110,6 +116,8 @@ public final class FaceTest {
             int is = field.getModifiers();
             if (Modifier.isStatic(is)) {
                 Checks.due("final: " + field, Modifier.isFinal(is), true);
+                Checks.due("a constant: " + field, List.of("int", "long", "boolean", "char", "class java.lang.String",
+                        "class [I", "class [J", "class [C", "class [B").contains(field.getType().toString()), true);
             } else {
                 held++;
             }

@@ -7,7 +7,6 @@ import java.util.ArrayList;
 import java.util.List;
 import java.util.regex.Matcher;
 import java.util.regex.Pattern;
-import javax.tools.ToolProvider;
 
 /**
  * What README.md shows: its examples are compiled as they stand there, one after the other, and each call must answer
@@ -86,8 +85,8 @@ public final class ReadmeTest {
         try {
             Path file = folder.resolve("ReadmeExamples.java");
             Files.writeString(file, source);
-            int code = ToolProvider.getSystemJavaCompiler().run(null, null, null, "-d", folder.toString(), "-cp",
-                    System.getProperty("java.class.path"), file.toString());
+            int code = new ProcessBuilder("javac", "-d", folder.toString(), "-cp",
+                    System.getProperty("java.class.path"), file.toString()).inheritIO().start().waitFor();
             Checks.due("the examples compile", code, 0);
             try (URLClassLoader loader = new URLClassLoader(new URL[] {folder.toUri().toURL()},
                     ReadmeTest.class.getClassLoader())) {
